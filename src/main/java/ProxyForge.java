@@ -537,13 +537,14 @@ public final class ProxyForge {
         private final Types types;
         private final Methods methods;
         private final int[] faces = new int[MOST_FACES];
-        private final boolean[] met = new boolean[Types.MOST];
-        private final boolean[] metByFaces = new boolean[Types.MOST];
         private final int[] order = new int[Types.MOST];
         private final int[] counted = new int[Methods.MOST];
         private final int[] found = new int[Methods.MOST];
         private int base;
         private int faceCount;
+        // A bit for each interface: whether it was met, and whether it was not before those asked for.
+        private int met;
+        private int metByFaces;
         private int orderCount;
         private int countedCount;
         private int foundCount;
@@ -587,7 +588,7 @@ public final class ProxyForge {
 
         /** Of the interfaces asked for, the one by which a type was met; NONE if the class itself led to it. */
         int faceThatMet(int type) {
-            if (!metByFaces[type]) {
+            if (((metByFaces >>> type) & 1) == 0) {
                 return NONE;
             }
             for (int i = 0; i < faceCount; i++) {
@@ -622,8 +623,7 @@ public final class ProxyForge {
         }
 
         private void meetAll() {
-            Arrays.fill(met, false);
-            Arrays.fill(metByFaces, false);
+            met = 0;
             orderCount = 0;
             for (int type = base; type != NONE && orderCount < Types.MOST; type = types.parent[type]) {
                 order[orderCount] = type;
@@ -632,24 +632,25 @@ public final class ProxyForge {
             int classes = orderCount;
             for (int i = 0; i < classes; i++) {
                 for (int j = 0; j < types.faceCount[order[i]]; j++) {
-                    meet(types.face(order[i], j), false, 0);
+                    meet(types.face(order[i], j), 0);
                 }
             }
+            int metByClass = met;
             for (int i = 0; i < faceCount; i++) {
-                meet(faces[i], true, 0);
+                meet(faces[i], 0);
             }
+            metByFaces = met & ~metByClass;
         }
 
-        private void meet(int face, boolean byFaces, int depth) {
-            if (met[face] || depth >= Types.MOST || orderCount >= Types.MOST) {
+        private void meet(int face, int depth) {
+            if (((met >>> face) & 1) != 0 || depth >= Types.MOST || orderCount >= Types.MOST) {
                 return;
             }
-            met[face] = true;
-            metByFaces[face] = byFaces;
+            met |= 1 << face;
             order[orderCount] = face;
             orderCount++;
             for (int i = 0; i < types.faceCount[face]; i++) {
-                meet(types.face(face, i), byFaces, depth + 1);
+                meet(types.face(face, i), depth + 1);
             }
         }
 

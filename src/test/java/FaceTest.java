@@ -1,0 +1,148 @@
+import java.lang.management.ManagementFactory;
+import java.lang.reflect.Constructor;
+import java.lang.reflect.Field;
+import java.lang.reflect.Member;
+import java.lang.reflect.Method;
+import java.lang.reflect.Modifier;
+import java.util.Set;
+import java.util.TreeSet;
+
+/** The public face, what a run of the dearest calls makes, and the greatest files. */
+public final class FaceTest {
+    private static final Check CHECK = new Check();
+    private static final int NONE = ProxyForge.NONE;
+    private static final long MOST_BYTES = 2_000_000;
+    private static final Set<String> FACE = Set.of(
+            "NONE int", "ProxyForge []", "type [boolean, int, int, int] int", "implement [int, int] void",
+            "method [int, int, int, int, int] int", "throwing [int, int] void", "isSubtype [int, int] boolean",
+            "policy [int, int] boolean", "forge [int, int, int, int] int",
+            "slots [] int", "slot [int] int", "answer [int, long] void", "call [int, long, long, long, long] int",
+            "result [] long", "asked [] int", "given [int, int] long", "size [] int", "byteAt [int] int",
+            "change [int, int] boolean", "cut [int] boolean", "read [] int");
+
+    public static void main(String[] args) {
+        members();
+        room();
+        greatestFile();
+        CHECK.end();
+    }
+
+    private static String text(Class<?>[] parameters) {
+        StringBuilder s = new StringBuilder("[");
+        for (Class<?> p : parameters) {
+            s.append(s.length() > 1 ? ", " : "").append(p.getName());
+        }
+        return s.append("]").toString();
+    }
+
+    private static void members() {
+        Set<String> found = new TreeSet<>();
+        Class<?> c = ProxyForge.class;
+        CHECK.yes("public and final", Modifier.isPublic(c.getModifiers()) && Modifier.isFinal(c.getModifiers()));
+        for (Field f : c.getDeclaredFields()) {
+            add(found, f, f.getName() + " " + f.getType().getName());
+        }
+        for (Constructor<?> k : c.getDeclaredConstructors()) {
+            add(found, k, "ProxyForge " + text(k.getParameterTypes()));
+        }
+        Set<String> publicNames = new TreeSet<>();
+        for (Method m : c.getDeclaredMethods()) {
+            add(found, m, m.getName() + " " + text(m.getParameterTypes()) + " " + m.getReturnType().getName());
+            if (Modifier.isPublic(m.getModifiers())) {
+                publicNames.add(m.getName());
+            }
+        }
+        CHECK.yes("the face is " + found, FACE.equals(found));
+        for (Class<?> inside : c.getDeclaredClasses()) {
+            CHECK.yes(inside + " is static", Modifier.isStatic(inside.getModifiers()));
+            CHECK.yes(inside + " is private", Modifier.isPrivate(inside.getModifiers()));
+            for (Method m : inside.getDeclaredMethods()) {
+                CHECK.no(m + " bears a public name", publicNames.contains(m.getName()));
+            }
+        }
+    }
+
+    private static void add(Set<String> found, Member m, String text) {
+        if (!Modifier.isPrivate(m.getModifiers())) {
+            CHECK.yes(text + " is public", Modifier.isPublic(m.getModifiers()));
+            found.add(text);
+        }
+    }
+
+    /** Many constructors and slots with long descriptors; everything that can be thrown. */
+    private static ProxyForge great(Model y) {
+        ProxyForge x = new ProxyForge();
+        for (int t = 4; t < 20; t++) {
+            int parent = t < 8 ? 1 : 0;
+            CHECK.same("type", y.type(t > 16, 1, t % 4, parent), x.type(t > 16, 1, t % 4, parent));
+        }
+        for (int i = 0; i < 32; i++) {
+            int parameters = 7 + 32 * (7 + 32 * (7 + 32 * (8 + i % 16)));
+            int back = i < 16 ? 0 : 7 + (i - 16) % 2;
+            int name = i < 16 ? 10 : (i - 16) % 10;
+            CHECK.same("method", y.method(4, name, 1, parameters, back), x.method(4, name, 1, parameters, back));
+        }
+        for (int i = 0; i < 24; i++) {
+            int parameters = i < 8 ? 7 + 32 * (6 + 32 * (7 + 32 * (8 + i))) : 7 + 32 * (5 + 32 * (5 + 32 * (4 + i - 8)));
+            int name = i < 8 ? i : 10;
+            CHECK.same("method", y.method(4, name, 1, parameters, 0), x.method(4, name, 1, parameters, 0));
+        }
+        for (int m = 4; m < 60; m++) {
+            for (int thrown : new int[] {3, 2, 4 + m % 4}) {
+                y.throwing(m, thrown);
+                x.throwing(m, thrown);
+            }
+        }
+        return x;
+    }
+
+    private static void greatestFile() {
+        for (int policy = 0; policy < 4; policy++) {
+            Model y = new Model();
+            ProxyForge x = great(y);
+            for (int name = 0; name < 10; name++) {
+                y.policy(name, policy);
+                x.policy(name, policy);
+            }
+            CHECK.same("forge", 0, y.forge(4, 17, 18, 19));
+            CHECK.same("forge", 0, x.forge(4, 17, 18, 19));
+            CHECK.same("slots", 24, x.slots());
+            CHECK.same("size", y.size(), x.size());
+            CHECK.yes("it is great", x.size() > 9000);
+            for (int k = 0; k < x.size(); k++) {
+                CHECK.same("byteAt(" + k + ")", y.byteAt(k), x.byteAt(k));
+            }
+            CHECK.same("read", NONE, x.read());
+            int entries = (x.byteAt(8) << 8) + x.byteAt(9);
+            System.out.println("policy " + policy + ": " + x.size() + " bytes, " + entries + " entries");
+        }
+    }
+
+    private static void room() {
+        com.sun.management.ThreadMXBean threads = (com.sun.management.ThreadMXBean) ManagementFactory.getThreadMXBean();
+        ProxyForge warm = great(new Model());
+        warm.forge(4, NONE, NONE, NONE);
+        warm.read();
+        long thread = Thread.currentThread().getId();
+        long before = threads.getThreadAllocatedBytes(thread);
+        ProxyForge made = new ProxyForge();
+        long madeBytes = threads.getThreadAllocatedBytes(thread) - before;
+        ProxyForge x = great(new Model());
+        before = threads.getThreadAllocatedBytes(thread);
+        for (int i = 0; i < 512; i++) {
+            x.forge(4, 17, 18, 19);
+        }
+        long forging = threads.getThreadAllocatedBytes(thread) - before;
+        before = threads.getThreadAllocatedBytes(thread);
+        for (int i = 0; i < 512; i++) {
+            x.read();
+            x.call(i % 24, i, i, i, i);
+        }
+        long reading = threads.getThreadAllocatedBytes(thread) - before;
+        System.out.println("bytes made: " + madeBytes + " by new, " + forging + " by forge, " + reading + " by read, call");
+        CHECK.yes("nothing yet", made.size() == 0);
+        CHECK.yes("new makes little", madeBytes < 20_000);
+        CHECK.yes("512 times forge make little", forging < MOST_BYTES);
+        CHECK.yes("512 times read and call make little", reading < MOST_BYTES);
+    }
+}
