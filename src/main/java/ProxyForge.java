@@ -1369,17 +1369,17 @@ public final class ProxyForge {
             body.two(0);
         }
 
-        private void handlers(int m, int thrown, int handler) {
+        private void handlers(int m, int thrown, int rethrowing) {
             body.two(3 + thrown);
-            handler(handler, handler, Types.ERROR);
-            handler(handler, handler, Types.RUNTIME_EXCEPTION);
+            addHandler(rethrowing, rethrowing, Types.ERROR);
+            addHandler(rethrowing, rethrowing, Types.RUNTIME_EXCEPTION);
             for (int i = 0; i < thrown; i++) {
-                handler(handler, handler, methods.thrownBy(m, i));
+                addHandler(rethrowing, rethrowing, methods.thrownBy(m, i));
             }
-            handler(handler, handler + 1, Types.THROWABLE);
+            addHandler(rethrowing, rethrowing + 1, Types.THROWABLE);
         }
 
-        private void handler(int to, int at, int type) {
+        private void addHandler(int to, int at, int type) {
             body.two(0);
             body.two(to);
             body.two(at);

@@ -213,7 +213,7 @@ public final class ReadTest {
         }
         int table = h + 40;
         fault(x, "0 or 1", table + 1, 2, table);
-        fault(x, "none: then Exceptions is asked for", table + 1, 0, code - 12);
+        fault(x, "none: Code is shorter than it said", table + 1, 0, code - 12);
         fault(x, "StackMapTable", table + 3, 1, table + 2);
         fault(x, "beyond the end", table + 4, 1, x.size());
         fault(x, "beyond the end", table + 4, 255, x.size());
