@@ -1,15 +1,27 @@
-/** Counts the answers that are not as due, and ends a test's main by them. */
+/** Counts the answers that are not as due, tells each with the document's sentence, and ends a test's main by them. */
 final class Check {
+    private static final int MOST_TOLD = 40;
+
+    private String sentence = "";
     private int wrong;
     private int asked;
+
+    /** The sentence of the document that the answers from here on are due by. */
+    void of(String words) {
+        sentence = "[" + words + "] ";
+    }
 
     void same(String what, long due, long got) {
         asked++;
         if (due != got) {
-            wrong++;
-            if (wrong <= 40) {
-                System.out.println(what + " answered " + got + ", due is " + due);
-            }
+            tell(what + " answered " + got + ", due is " + due);
+        }
+    }
+
+    void text(String what, String due, String got) {
+        asked++;
+        if (!due.equals(got)) {
+            tell(what + "\n due " + due + "\n got " + got);
         }
     }
 
@@ -26,15 +38,12 @@ final class Check {
         try {
             call.run();
         } catch (RuntimeException e) {
-            if (e.getClass() == due) {
-                return;
+            if (e.getClass() != due) {
+                tell(what + " threw " + e.getClass().getName() + ", due is " + due.getName());
             }
-            wrong++;
-            System.out.println(what + " threw " + e.getClass().getName() + ", due is " + due.getName());
             return;
         }
-        wrong++;
-        System.out.println(what + " threw nothing, due is " + due.getName());
+        tell(what + " threw nothing, due is " + due.getName());
     }
 
     void illegal(String what, Runnable call) {
@@ -49,6 +58,13 @@ final class Check {
         System.out.println(asked + " answers, " + wrong + " not as due");
         if (wrong != 0 || asked == 0) {
             System.exit(1);
+        }
+    }
+
+    private void tell(String what) {
+        wrong++;
+        if (wrong <= MOST_TOLD) {
+            System.out.println(sentence + what);
         }
     }
 }

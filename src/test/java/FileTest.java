@@ -1,40 +1,38 @@
-import java.io.ByteArrayInputStream;
-import java.io.DataInputStream;
-import java.io.IOException;
-import java.util.ArrayList;
+import java.util.HashSet;
 import java.util.List;
 
-/** Promises 8, 16 and 17: the file's bytes, written out here as the document tells them. */
+/** Promises 8, 16 and 17: the file's bytes and its pool, written out here as the document tells them. */
 public final class FileTest {
     private static final Check CHECK = new Check();
     private static final int NONE = ProxyForge.NONE;
+    private static final int OBJECT_SIZE = 182;
 
-    public static void main(String[] args) throws IOException {
-        proxyOfObject();
-        sizeAndBytes();
-        constructors();
-        intercepted();
-        interceptedThrowingThrowable();
-        fixedAndDispatched();
-        superCalls();
-        pushesAndNames();
+    public static void main(String[] args) {
+        everyByte();
+        sizes();
+        bytesAt();
+        countOfEntries();
+        noneTwice();
+        neededAtFirst();
+        proxyNames();
+        typeNames();
+        methodNames();
+        descriptors();
+        constructorEntries();
+        interceptedEntries();
+        handlersBeforeTable();
+        fixedEntries();
+        dispatchedEntries();
+        superEntries();
         CHECK.end();
     }
 
-    private static byte[] bytes(ProxyForge x) {
-        byte[] file = new byte[x.size()];
-        for (int k = 0; k < file.length; k++) {
-            file[k] = (byte) x.byteAt(k);
-        }
-        return file;
+    private static void pool(String what, String due, Listing l, int from, int to) {
+        CHECK.text(what, due, String.join(", ", l.pool.subList(from - 1, to)));
     }
 
-    private static void sameText(String what, String due, String got) {
-        CHECK.yes(what + "\n due " + due + "\n got " + got, due.equals(got));
-    }
-
-    /** Every single byte of the smallest file. */
-    private static void proxyOfObject() {
+    private static void everyByte() {
+        CHECK.of("THE FILE: numbers of 1, 2 or 4 bytes, the highest first");
         ProxyForge x = new ProxyForge();
         CHECK.same("forge", 0, x.forge(0, NONE, NONE, NONE));
         Object[] due = {
@@ -57,251 +55,283 @@ public final class FileTest {
         CHECK.same("size", k, x.size());
     }
 
-    private static void sizeAndBytes() {
+    private static void sizes() {
+        CHECK.of("Promise 16: How many bytes the file has; 0 without a proxy");
         ProxyForge x = new ProxyForge();
-        CHECK.same("size without a proxy", 0, x.size());
+        CHECK.same("without a proxy", 0, x.size());
+        CHECK.same("refused", 3, x.forge(0, 0, NONE, NONE));
+        CHECK.same("still without one", 0, x.size());
+        x.forge(0, NONE, NONE, NONE);
+        CHECK.same("of OBJECT", OBJECT_SIZE, x.size());
+        x.forge(3, NONE, NONE, NONE);
+        CHECK.same("of RUNTIME EXCEPTION, a longer name", OBJECT_SIZE + 10, x.size());
         x.forge(2, NONE, NONE, NONE);
-        int size = x.size();
-        CHECK.same("behind the last", NONE, x.byteAt(size));
-        CHECK.same("before the first", NONE, x.byteAt(-1));
-        CHECK.same("far off", NONE, x.byteAt(Integer.MAX_VALUE));
-        CHECK.same("far off", NONE, x.byteAt(Integer.MIN_VALUE));
-        CHECK.same("the last", 0, x.byteAt(size - 1));
+        CHECK.same("of ERROR, a shorter one", OBJECT_SIZE - 1, x.size());
+        x.cut(100);
+        CHECK.same("cut", 100, x.size());
+        x.change(3, 0);
+        CHECK.same("changed", 100, x.size());
+        x.cut(0);
+        CHECK.same("of no bytes", 0, x.size());
     }
 
-    private static void constructors() throws IOException {
+    private static void bytesAt() {
+        CHECK.of("Promise 17: A byte of the file; NONE if there is none");
         ProxyForge x = new ProxyForge();
+        x.forge(3, NONE, NONE, NONE);
+        x.forge(0, NONE, NONE, NONE);
+        CHECK.same("the first", 202, x.byteAt(0));
+        CHECK.same("the last", 0, x.byteAt(OBJECT_SIZE - 1));
+        for (int far : new int[] {Integer.MIN_VALUE, -1, OBJECT_SIZE, OBJECT_SIZE + 1, OBJECT_SIZE + 9, 512,
+            Integer.MAX_VALUE}) {
+            CHECK.same("byteAt(" + far + ")", NONE, x.byteAt(far));
+        }
+        x.cut(1);
+        CHECK.same("the only one", 202, x.byteAt(0));
+        CHECK.same("cut off", NONE, x.byteAt(1));
+        x.cut(0);
+        CHECK.same("cut off", NONE, x.byteAt(0));
+    }
+
+    /** A class with four slots of all policies, and an interface with another four. */
+    private static Renewed eight() {
+        Renewed x = new Renewed();
+        int type = Make.base(x, 1, 0, 0);
+        int face = x.type(true, 1, 1, 0);
+        for (int name = 0; name < 4; name++) {
+            int m = x.method(type, name, 1, Make.parameters(1, 2, 3, 8), name);
+            x.throwing(m, 3);
+            x.method(face, name, 33, Make.parameters(9, 3), 8);
+            x.policy(name, name);
+        }
+        CHECK.same("forge", 0, Make.forge(x, type, face));
+        return x;
+    }
+
+    private static void countOfEntries() {
+        CHECK.of("THE FILE: the POOL: how many entries and 1 (2), the entries");
+        Renewed x = eight();
+        int count = (x.byteAt(8) << 8) + x.byteAt(9);
+        CHECK.same("entries and 1", Listing.withNumbers(x).pool.size() + 1, count);
+        CHECK.same("read", NONE, x.read());
+    }
+
+    private static void noneTwice() {
+        CHECK.of("THE FILE: An entry is made when it is first needed; what it needs itself before it; none twice");
+        List<String> pool = Listing.withNumbers(eight()).pool;
+        CHECK.same("different entries", pool.size(), new HashSet<>(pool).size());
+        for (int i = 0; i < pool.size(); i++) {
+            if (pool.get(i).matches("#\\d+|\\d+:\\d+|\\d+ \\d+\\.\\d+")) {
+                String[] numbers = pool.get(i).replaceFirst("^\\d+ ", "").split("\\D+");
+                for (String number : numbers) {
+                    CHECK.yes(pool.get(i) + " needs earlier ones", number.isEmpty() || Integer.parseInt(number) <= i);
+                }
+            }
+        }
+    }
+
+    private static void neededAtFirst() {
+        CHECK.of("THE FILE: Needed at first: the CLASSES of the proxy, of C, of I; then TEXTS cb and Lpx/Callback;");
+        Renewed x = new Renewed();
+        int type = Make.base(x, 1, 3, 0);
+        int a = x.type(true, 1, 1, 0);
+        int b = x.type(true, 1, 0, 0);
+        int c = x.type(true, 0, 3, 0);
+        Make.forge(x, type, c, a, b);
+        Listing l = Listing.withNumbers(x);
+        pool("pool", "p3/P, #1, p3/T4, #3, p3/T7, #5, p1/T5, #7, p0/T6, #9, cb, Lpx/Callback;, <init>", l, 1, 13);
+        CHECK.text("class", "49 2 4 [6, 8, 10] 1 2 cb Lpx/Callback; 0", l.head);
+        Make.forge(x, type);
+        CHECK.text("without I", "49 2 4 [] 1 2 cb Lpx/Callback; 0", Listing.withNumbers(x).head);
+    }
+
+    private static void proxyNames() {
+        CHECK.of("The proxy class is in C's package (of 4: in px), named as C's package, / and P");
+        for (int pack = 0; pack < 4; pack++) {
+            Renewed x = new Renewed();
+            Make.forge(x, Make.base(x, 1, pack, 0));
+            pool("package " + pack, "p" + pack + "/P, #1, p" + pack + "/T4, #3", Listing.withNumbers(x), 1, 4);
+        }
+        Renewed x = new Renewed();
+        Make.forge(x, 1);
+        pool("package 4", "px/P, #1, java/lang/Throwable, #3", Listing.withNumbers(x), 1, 4);
+    }
+
+    private static void typeNames() {
+        CHECK.of("with the name p, the digit of the package, /T, the number");
+        for (int type = 4; type < 20; type++) {
+            Renewed x = new Renewed();
+            for (int before = 4; before < type; before++) {
+                x.type(true, 1, 0, 0);
+            }
+            Make.forge(x, Make.base(x, 1, type % 4, 0));
+            pool("type " + type, "p" + type % 4 + "/T" + type, Listing.withNumbers(x), 3, 3);
+        }
+    }
+
+    private static void methodNames() {
+        CHECK.of("with a NAME 0 .. 9 (m and the digit) or 10, a constructor (<init>)");
+        Renewed x = new Renewed();
+        int type = Make.base(x, 1, 0, 0);
+        for (int name = 9; name >= 0; name--) {
+            x.method(type, name, 1, 0, 0);
+        }
+        Make.forge(x, type);
+        List<String> methods = Listing.withMeanings(x).methods;
+        CHECK.yes("constructor", methods.get(0).startsWith("1 <init> (Lpx/Callback;)V 1: "));
+        for (int name = 0; name < 10; name++) {
+            CHECK.yes("m" + name, methods.get(10 - name).startsWith("17 m" + name + " ()V 1: "));
+        }
+        CHECK.same("methods", 11, methods.size());
+    }
+
+    private static void descriptors() {
+        CHECK.of("A DESCRIPTOR: ( the parameters' letters ) the returned one's; a type is L its name ;");
+        Object[][] due = {
+            {0, 0, "()V"}, {0, 1, "()I"}, {0, 2, "()J"}, {0, 3, "()Z"}, {0, 4, "()Ljava/lang/Object;"},
+            {0, 7, "()Ljava/lang/RuntimeException;"}, {0, 8, "()Lp2/T4;"}, {Make.parameters(1), 0, "(I)V"},
+            {Make.parameters(2, 1), 0, "(JI)V"}, {Make.parameters(3, 6, 2), 1, "(ZLjava/lang/Error;J)I"},
+            {Make.parameters(1, 2, 3, 5), 3, "(IJZLjava/lang/Throwable;)Z"},
+            {Make.parameters(8, 9, 8, 9), 9, "(Lp2/T4;Lp1/T5;Lp2/T4;Lp1/T5;)Lp1/T5;"},
+        };
+        for (Object[] d : due) {
+            Renewed x = new Renewed();
+            int type = Make.base(x, 1, 2, 0);
+            x.type(true, 1, 1, 0);
+            x.method(type, 1, 1, (int) d[0], (int) d[1]);
+            Make.forge(x, type);
+            CHECK.text("descriptor", (String) d[2], Listing.withNumbers(x).last().split(" ")[2]);
+        }
+    }
+
+    private static void constructorEntries() {
+        CHECK.of("First CONSTRUCTORS: for each one of C that isn't PRIVATE, by number; entries in the order of the telling");
+        Renewed x = new Renewed();
         int type = x.type(false, 1, 3, 0);
-        x.method(type, 10, 2, 2 + 32 * 3, 0);
+        x.method(type, 10, 2, Make.parameters(2, 3), 0);
         x.method(type, 10, 4, 0, 0);
         x.method(type, 10, 0, 8, 0);
-        x.forge(type, NONE, NONE, NONE);
-        Listing l = new Listing(bytes(x));
-        sameText("pool", "p3/P, #1, p3/T4, #3, cb, Lpx/Callback;, <init>, (Lpx/Callback;JZ)V, Code, 5:6, 9 2.10, (JZ)V, "
-                + "7:12, 10 4.13, (Lpx/Callback;Lp3/T4;)V, (Lp3/T4;)V, 7:16, 10 4.17", String.join(", ", l.pool));
-        sameText("two constructors", "49 2 4 [] 1 2 cb Lpx/Callback; 0", l.head);
-        sameText("JZ", "4 <init> (Lpx/Callback;JZ)V 1: Code 26 4 5 14: 42 43 181 11 42 22 2 21 4 183 14 177 [] 0",
+        Make.forge(x, type);
+        Listing l = Listing.withNumbers(x);
+        pool("pool", "p3/P, #1, p3/T4, #3, cb, Lpx/Callback;, <init>, (Lpx/Callback;JZ)V, Code, 5:6, 9 2.10, (JZ)V, "
+                + "7:12, 10 4.13, (Lpx/Callback;Lp3/T4;)V, (Lp3/T4;)V, 7:16, 10 4.17", l, 1, 18);
+        CHECK.same("no more entries", 18, l.pool.size());
+        CHECK.text("JZ", "4 <init> (Lpx/Callback;JZ)V 1: Code 26 4 5 14: 42 43 181 11 42 22 2 21 4 183 14 177 [] 0",
                 l.methods.get(0));
-        sameText("T4", "0 <init> (Lpx/Callback;Lp3/T4;)V 1: Code 24 2 3 12: 42 43 181 11 42 25 2 183 18 177 [] 0",
+        CHECK.text("T4", "0 <init> (Lpx/Callback;Lp3/T4;)V 1: Code 24 2 3 12: 42 43 181 11 42 25 2 183 18 177 [] 0",
                 l.methods.get(1));
         CHECK.same("no more", 2, l.methods.size());
     }
 
-    private static void intercepted() throws IOException {
-        ProxyForge x = new ProxyForge();
-        int type = x.type(false, 1, 0, 0);
+    private static void interceptedEntries() {
+        CHECK.of("INTERCEPTED: entries in the order of the telling");
+        Renewed x = new Renewed();
+        int type = Make.base(x, 1, 0, 0);
         int face = x.type(true, 1, 1, 0);
-        x.method(type, 10, 1, 0, 0);
-        int m = x.method(type, 7, 2, 1 + 32 * (2 + 32 * (3 + 32 * 9)), 2);
+        int m = x.method(type, 7, 2, Make.parameters(1, 2, 3, 9), 2);
         x.throwing(m, 3);
         x.throwing(m, 2);
         x.method(face, 2, 33, 0, 0);
         x.method(face, 3, 33, 0, 4);
-        x.forge(type, face, NONE, NONE);
-        Listing l = new Listing(bytes(x));
-        sameText("head", "49 2 4 [6] 1 2 cb Lpx/Callback; 0", l.head);
-        sameText("four parameters, a long back, two thrown", "20 m7 (IJZLp1/T5;)J 2: Code 132 8 7 64: "
+        Make.forge(x, type, face);
+        Listing l = Listing.withNumbers(x);
+        CHECK.text("head", "49 2 4 [6] 1 2 cb Lpx/Callback; 0", l.head);
+        CHECK.text("four parameters, a long back, two thrown", "20 m7 (IJZLp1/T5;)J 2: Code 132 8 7 64: "
                 + "42 180 13 42 3 7 189 20 89 3 21 1 184 26 83 89 4 22 2 184 31 83 89 5 21 4 184 36 83 "
                 + "89 6 25 5 83 185 42 4 0 192 28 182 46 173 191 58 6 187 48 89 25 6 183 51 191 "
                 + "[0 51 51 53, 0 51 51 55, 0 51 51 55, 0 51 51 53, 0 51 52 57] 1 StackMapTable 10 2 115 7 57 64 7 57 "
                 + "Exceptions 6 [55, 53]", l.methods.get(1));
-        sameText("nothing there, nothing back", "17 m2 ()V 1: Code 79 4 2 27: "
+        CHECK.text("nothing there, nothing back", "17 m2 ()V 1: Code 79 4 2 27: "
                 + "42 180 13 42 4 1 185 42 4 0 87 177 191 58 1 187 48 89 25 1 183 51 191 "
                 + "[0 14 14 53, 0 14 14 55, 0 14 15 57] 1 StackMapTable 10 2 78 7 57 64 7 57", l.methods.get(2));
-        sameText("an object back", "17 m3 ()Ljava/lang/Object; 1: Code 78 4 2 26: "
+        CHECK.text("an object back", "17 m3 ()Ljava/lang/Object; 1: Code 78 4 2 26: "
                 + "42 180 13 42 5 1 185 42 4 0 176 191 58 1 187 48 89 25 1 183 51 191 "
                 + "[0 13 13 53, 0 13 13 55, 0 13 14 57] 1 StackMapTable 10 2 77 7 57 64 7 57", l.methods.get(3));
-        sameText("pool from the slot on", "m7, (IJZLp1/T5;)J, java/lang/Object, #19, "
+        pool("pool from the slot on", "m7, (IJZLp1/T5;)J, java/lang/Object, #19, "
                 + "java/lang/Integer, #21, valueOf, (I)Ljava/lang/Integer;, 23:24, 10 22.25, "
                 + "java/lang/Long, #27, (J)Ljava/lang/Long;, 23:29, 10 28.30, "
                 + "java/lang/Boolean, #32, (Z)Ljava/lang/Boolean;, 23:34, 10 33.35, px/Callback, #37, on, "
                 + "(Ljava/lang/Object;I[Ljava/lang/Object;)Ljava/lang/Object;, 39:40, 11 38.41, longValue, ()J, 43:44, "
                 + "10 28.45, java/lang/reflect/UndeclaredThrowableException, #47, (Ljava/lang/Throwable;)V, 9:49, "
                 + "10 48.50, java/lang/Error, #52, java/lang/RuntimeException, #54, java/lang/Throwable, #56, "
-                + "StackMapTable, Exceptions, m2, m3, ()Ljava/lang/Object;",
-                String.join(", ", l.pool.subList(16, l.pool.size())));
+                + "StackMapTable, Exceptions, m2, m3, ()Ljava/lang/Object;", l, 17, l.pool.size());
     }
 
-    private static void interceptedThrowingThrowable() throws IOException {
-        ProxyForge x = new ProxyForge();
-        int type = x.type(false, 5, 0, 0);
-        x.method(type, 10, 1, 0, 0);
-        int m = x.method(type, 1, 32, 0, 3);
-        x.throwing(m, 2);
+    private static void handlersBeforeTable() {
+        CHECK.of("All that the code needs comes before what handlers need, and that before STACKMAPTABLE");
+        Renewed x = new Renewed();
+        int type = Make.base(x, 1, 0, 0);
+        int thrown = x.type(false, 1, 1, 1);
+        int m = x.method(type, 1, 1, 0, 6);
+        x.throwing(m, thrown);
+        Make.forge(x, type);
+        Listing l = Listing.withNumbers(x);
+        pool("pool from the slot on", "m1, ()Ljava/lang/Error;, px/Callback, #17, on, "
+                + "(Ljava/lang/Object;I[Ljava/lang/Object;)Ljava/lang/Object;, 19:20, 11 18.21, java/lang/Error, #23, "
+                + "java/lang/reflect/UndeclaredThrowableException, #25, (Ljava/lang/Throwable;)V, 7:27, 10 26.28, "
+                + "java/lang/RuntimeException, #30, p1/T5, #32, java/lang/Throwable, #34, StackMapTable, Exceptions",
+                l, 15, l.pool.size());
         x.throwing(m, 1);
-        x.forge(type, NONE, NONE, NONE);
-        x.throwing(m, 3);
-        Listing l = new Listing(bytes(x));
-        sameText("no handlers", "16 m1 ()Z 2: Code 31 4 1 19: 42 180 11 42 3 1 185 22 4 0 192 24 182 27 172 [] 0 "
-                + "Exceptions 6 [30, 32]", l.methods.get(1));
-        x.forge(type, NONE, NONE, NONE);
-        CHECK.yes("one more", new Listing(bytes(x)).methods.get(1).endsWith(" Exceptions 8 [30, 32, 34]"));
+        Make.forge(x, type);
+        l = Listing.withNumbers(x);
+        pool("without handlers", "java/lang/Error, #23, Exceptions, p1/T5, #26, java/lang/Throwable, #28",
+                l, 23, l.pool.size());
     }
 
-    private static void fixedAndDispatched() throws IOException {
-        ProxyForge x = new ProxyForge();
-        int type = x.type(false, 1, 0, 0);
-        int face = x.type(true, 1, 0, 0);
-        x.method(type, 10, 1, 0, 0);
+    private static void fixedEntries() {
+        CHECK.of("FIXED: entries in the order of the telling");
+        Renewed x = new Renewed();
+        int type = Make.base(x, 1, 0, 0);
         x.method(type, 1, 1, 0, 1);
+        x.policy(1, 1);
+        Make.forge(x, type);
+        Listing l = Listing.withNumbers(x);
+        CHECK.text("FIXED", "17 m1 ()I 1: Code 29 2 1 17: 42 180 11 3 185 22 2 0 192 24 182 27 172 [] 0", l.last());
+        pool("entries", "m1, ()I, px/Callback, #17, fixed, (I)Ljava/lang/Object;, 19:20, 11 18.21, "
+                + "java/lang/Integer, #23, intValue, 25:16, 10 24.26", l, 15, l.pool.size());
+    }
+
+    private static void dispatchedEntries() {
+        CHECK.of("DISPATCHED: entries in the order of the telling");
+        Renewed x = new Renewed();
+        int type = Make.base(x, 1, 0, 0);
+        int face = x.type(true, 1, 0, 0);
         int m = x.method(type, 2, 1, 2, 4 + type);
         x.throwing(m, 3);
-        x.method(face, 2, 33, 2 + 32 * 2, 2);
-        x.policy(1, 1);
+        x.method(face, 2, 33, Make.parameters(2, 2), 2);
         x.policy(2, 3);
-        x.forge(type, face, NONE, NONE);
-        Listing l = new Listing(bytes(x));
-        sameText("FIXED", "17 m1 ()I 1: Code 29 2 1 17: 42 180 13 3 185 24 2 0 192 26 182 29 172 [] 0", l.methods.get(1));
-        sameText("FIXED's entries", "m1, ()I, px/Callback, #19, fixed, (I)Ljava/lang/Object;, 21:22, 11 20.23, "
-                + "java/lang/Integer, #25, intValue, 27:18, 10 26.28", String.join(", ", l.pool.subList(16, 29)));
-        sameText("DISPATCHED, of a class", "17 m2 (J)Lp0/T4; 2: Code 31 3 3 19: "
-                + "42 180 13 4 185 34 2 0 192 4 22 1 182 36 176 [] 0 Exceptions 4 [39]", l.methods.get(2));
-        sameText("DISPATCHED, of an interface", "17 m2 (JJ)J 1: Code 35 5 5 23: "
-                + "42 180 13 5 185 34 2 0 192 6 22 1 22 3 185 42 5 0 173 [] 0", l.methods.get(3));
-        sameText("DISPATCHED's entries", "m2, (J)Lp0/T4;, to, 32:22, 11 20.33, 30:31, 10 4.35, Exceptions, "
-                + "java/lang/RuntimeException, #38, (JJ)J, 30:40, 11 6.41", String.join(", ", l.pool.subList(29, 42)));
+        Make.forge(x, type, face);
+        Listing l = Listing.withNumbers(x);
+        CHECK.text("of a class", "17 m2 (J)Lp0/T4; 2: Code 31 3 3 19: "
+                + "42 180 13 3 185 24 2 0 192 4 22 1 182 26 176 [] 0 Exceptions 4 [29]", l.methods.get(1));
+        CHECK.text("of an interface", "17 m2 (JJ)J 1: Code 35 5 5 23: "
+                + "42 180 13 4 185 24 2 0 192 6 22 1 22 3 185 32 5 0 173 [] 0", l.methods.get(2));
+        pool("entries", "m2, (J)Lp0/T4;, px/Callback, #19, to, (I)Ljava/lang/Object;, 21:22, 11 20.23, 17:18, 10 4.25, "
+                + "Exceptions, java/lang/RuntimeException, #28, (JJ)J, 17:30, 11 6.31", l, 17, l.pool.size());
+        Renewed y = new Renewed();
+        int parent = Make.base(y, 1, 0, 0);
+        int child = Make.base(y, 1, 0, parent);
+        y.method(parent, 2, 1, 0, 0);
+        y.policy(2, 3);
+        Make.forge(y, child);
+        l = Listing.withNumbers(y);
+        pool("the slot's type is not C", "m2, px/Callback, #16, to, (I)Ljava/lang/Object;, 18:19, 11 17.20, "
+                + "p0/T4, #22, 15:12, 10 23.24", l, 15, l.pool.size());
     }
 
-    private static void superCalls() throws IOException {
-        ProxyForge x = new ProxyForge();
+    private static void superEntries() {
+        CHECK.of("SUPER: entries in the order of the telling");
+        Renewed x = new Renewed();
         int parent = x.type(false, 1, 0, 0);
-        int type = x.type(false, 1, 0, parent);
-        int[] face = new int[4];
-        for (int i = 0; i < 4; i++) {
-            face[i] = x.type(true, 1, 0, 0);
-        }
-        x.method(type, 10, 1, 0, 0);
+        int type = Make.base(x, 1, 0, parent);
+        int face = x.type(true, 1, 0, 0);
         x.method(parent, 1, 1, 0, 2);
-        x.method(face[0], 1, 33, 1, 0);
-        x.method(face[3], 1, 1, 2, 0);
-        x.implement(parent, face[0]);
-        x.implement(face[2], face[3]);
-        x.implement(face[1], face[3]);
+        x.method(face, 1, 1, 2, 0);
         x.policy(1, 2);
-        x.forge(type, face[0], face[2], face[1]);
-        Listing l = new Listing(bytes(x));
-        sameText("head", "49 2 4 [6, 8, 10] 1 2 cb Lpx/Callback; 0", l.head);
-        sameText("of a parent", "17 m1 ()J 1: Code 17 2 1 5: 42 183 24 173 [] 0", l.methods.get(1));
-        sameText("of an interface that the class led to", "17 m1 (I)V 1: Code 19 2 2 7: 42 21 1 183 27 177 [] 0",
-                l.methods.get(2));
-        sameText("of an interface that I led to", "17 m1 (J)V 1: Code 19 3 3 7: 42 22 1 183 30 177 [] 0",
-                l.methods.get(3));
-        sameText("entries", "m1, ()J, 21:22, 10 4.23, (I)V, 21:25, 10 4.26, (J)V, 21:28, 11 8.29",
-                String.join(", ", l.pool.subList(20, 30)));
-    }
-
-    private static void pushesAndNames() throws IOException {
-        ProxyForge x = new ProxyForge();
-        int last = 0;
-        for (int t = 4; t < 20; t++) {
-            last = x.type(false, 5, t % 4, t == 4 ? 0 : last);
-        }
-        x.method(last, 10, 1, 0, 0);
-        for (int m = 0; m < 8; m++) {
-            x.method(last, m, 1, 0, 4 + last - m);
-            x.policy(m, 1);
-        }
-        x.forge(last, NONE, NONE, NONE);
-        Listing l = new Listing(bytes(x));
-        sameText("the short pushes' last", "17 m5 ()Lp2/T14; 1: Code 26 2 1 14: 42 180 11 8 185 22 2 0 192 42 176 [] 0",
-                l.methods.get(6));
-        sameText("the long pushes' first", "17 m6 ()Lp1/T13; 1: Code 27 2 1 15: 42 180 11 16 6 185 22 2 0 192 46 176 [] 0",
-                l.methods.get(7));
-        sameText("names", "p3/P, #1, p3/T19, #3", String.join(", ", l.pool.subList(0, 4)));
-    }
-
-    /** A file as text: the pool's entries with numbers, code with its operands. */
-    private static final class Listing {
-        private final List<String> pool = new ArrayList<>();
-        private final List<String> methods = new ArrayList<>();
-        private final String head;
-        private final DataInputStream in;
-
-        Listing(byte[] file) throws IOException {
-            in = new DataInputStream(new ByteArrayInputStream(file));
-            in.readInt();
-            in.readInt();
-            int count = in.readUnsignedShort();
-            for (int i = 1; i < count; i++) {
-                pool.add(entry());
-            }
-            head = two() + " " + two() + " " + two() + " " + classes() + " " + two() + " " + two() + " " + text() + " "
-                    + text() + " " + two();
-            int howMany = two();
-            for (int i = 0; i < howMany; i++) {
-                methods.add(method());
-            }
-        }
-
-        private int two() throws IOException {
-            return in.readUnsignedShort();
-        }
-
-        private String text() throws IOException {
-            return pool.get(two() - 1);
-        }
-
-        private List<Integer> classes() throws IOException {
-            List<Integer> found = new ArrayList<>();
-            for (int n = two(); n > 0; n--) {
-                found.add(two());
-            }
-            return found;
-        }
-
-        private String entry() throws IOException {
-            int tag = in.readUnsignedByte();
-            return switch (tag) {
-                case 1 -> in.readUTF();
-                case 7 -> "#" + two();
-                case 12 -> two() + ":" + two();
-                default -> tag + " " + two() + "." + two();
-            };
-        }
-
-        private String method() throws IOException {
-            int access = two();
-            String s = access + " " + text() + " " + text() + " ";
-            int attributes = two();
-            s += attributes + ": " + text() + " " + in.readInt() + " " + two() + " " + two() + " " + code();
-            List<String> handlers = new ArrayList<>();
-            for (int n = two(); n > 0; n--) {
-                handlers.add(two() + " " + two() + " " + two() + " " + two());
-            }
-            int tables = two();
-            s += " " + handlers + " " + tables;
-            if (tables == 1) {
-                s += " " + text() + " " + in.readInt() + " " + two() + " " + in.readUnsignedByte() + " "
-                        + in.readUnsignedByte() + " " + two() + " " + in.readUnsignedByte() + " " + in.readUnsignedByte()
-                        + " " + two();
-            }
-            return attributes == 2 ? s + " " + text() + " " + in.readInt() + " " + classes() : s;
-        }
-
-        private String code() throws IOException {
-            int length = in.readInt();
-            StringBuilder s = new StringBuilder(length + ":");
-            int at = 0;
-            while (at < length) {
-                int op = in.readUnsignedByte();
-                s.append(' ').append(op);
-                at++;
-                int operands = switch (op) {
-                    case 16, 21, 22, 25, 58 -> 1;
-                    case 180, 181, 182, 183, 184, 187, 189, 192 -> 2;
-                    case 185 -> 4;
-                    default -> 0;
-                };
-                at += operands;
-                if (operands >= 2) {
-                    s.append(' ').append(two());
-                    operands -= 2;
-                }
-                for (int i = 0; i < operands; i++) {
-                    s.append(' ').append(in.readUnsignedByte());
-                }
-            }
-            return s.toString();
-        }
+        Make.forge(x, type, face);
+        Listing l = Listing.withNumbers(x);
+        CHECK.text("of a parent", "17 m1 ()J 1: Code 17 2 1 5: 42 183 20 173 [] 0", l.methods.get(1));
+        CHECK.text("of an interface of I", "17 m1 (J)V 1: Code 19 3 3 7: 42 22 1 183 23 177 [] 0", l.methods.get(2));
+        pool("entries", "m1, ()J, 17:18, 10 4.19, (J)V, 17:21, 11 6.22", l, 17, l.pool.size());
     }
 }

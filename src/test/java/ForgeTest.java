@@ -2,35 +2,51 @@
 public final class ForgeTest {
     private static final Check CHECK = new Check();
     private static final int NONE = ProxyForge.NONE;
+    private static final int[] FAR = {Integer.MIN_VALUE, -2, 20, 24, 32, Integer.MAX_VALUE};
 
     public static void main(String[] args) {
         policies();
-        wrongTypes();
+        noSuchPolicy();
+        policiesByName();
+        noSuchType();
+        oneBehindNone();
+        upToThreeInterfaces();
         refusedClass();
         refusedConstructors();
-        refusedInterfaces();
+        refusedNoInterfaces();
+        refusedHiddenInterfaces();
         refusedReturnedKinds();
+        onlySlotsClash();
         refusedSlots();
         firstRefusalCounts();
-        orderOfClassesAndInterfaces();
-        whichMethodsAreSlots();
+        inPlaceOfTheOneBefore();
         theOneBeforeStays();
+        slotNumbers();
+        classesUpToObject();
+        interfacesOfClasses();
+        interfacesInside();
+        metOnce();
+        methodsByNumber();
+        whatIsNoSlot();
+        packageMethods();
+        theFirstOneMetCounts();
+        finalOnesAreNoSlots();
         CHECK.end();
     }
 
-    private static int base(ProxyForge x, int flags, int pack, int parent) {
-        int type = x.type(false, flags, pack, parent);
-        x.method(type, 10, 1, 0, 0);
-        return type;
+    private static int forge(Renewed x, int type, int... faces) {
+        return Make.forge(x, type, faces);
     }
 
-    private static int forge(ProxyForge x, int type, int... faces) {
-        int[] all = java.util.Arrays.copyOf(faces, 3);
-        java.util.Arrays.fill(all, faces.length, 3, NONE);
-        return x.forge(type, all[0], all[1], all[2]);
+    private static int base(Renewed x) {
+        return Make.base(x, 1, 0, 0);
     }
 
-    private static void slots(String what, ProxyForge x, int... due) {
+    private static int face(Renewed x) {
+        return x.type(true, 1, 0, 0);
+    }
+
+    private static void slots(String what, Renewed x, int... due) {
         CHECK.same(what + ": slots", due.length, x.slots());
         for (int k = 0; k < due.length; k++) {
             CHECK.same(what + ": slot " + k, due[k], x.slot(k));
@@ -40,134 +56,274 @@ public final class ForgeTest {
     }
 
     private static void policies() {
-        ProxyForge x = new ProxyForge();
+        CHECK.of("Promise 7: The policy for a name 0 .. 9 becomes this");
+        Renewed x = new Renewed();
         for (int name = 0; name < 10; name++) {
             for (int kind = 0; kind < 4; kind++) {
-                CHECK.yes("policy", x.policy(name, kind));
+                CHECK.yes("policy(" + name + ", " + kind + ")", x.policy(name, kind));
             }
         }
-        CHECK.no("name -1", x.policy(-1, 0));
-        CHECK.no("name 10", x.policy(10, 0));
-        CHECK.no("kind -1", x.policy(0, -1));
-        CHECK.no("kind 4", x.policy(0, 4));
-        int type = base(x, 1, 0, 0);
-        x.method(type, 3, 1, 0, 1);
-        x.method(type, 4, 1, 0, 1);
-        x.policy(3, 2);
-        x.policy(4, 1);
-        forge(x, type);
-        x.policy(3, 0);
-        x.call(0, 0, 0, 0, 0);
-        CHECK.same("SUPER as when the proxy was made", NONE, x.asked());
-        x.call(1, 0, 0, 0, 0);
-        CHECK.same("FIXED", 1, x.asked());
-        CHECK.no("a wrong kind changes nothing", x.policy(4, 7));
-        forge(x, type);
-        CHECK.same("INTERCEPTED now", 2, x.call(0, 0, 0, 0, 0));
-        CHECK.same("asked", 0, x.asked());
+        String[] codes = {"on", "fixed", "183 M:p0/T4.m7 ()V", "to"};
+        for (int kind = 0; kind < 4; kind++) {
+            Renewed y = new Renewed();
+            int type = base(y);
+            y.method(type, 7, 1, 0, 0);
+            CHECK.yes("policy", y.policy(7, 3 - kind));
+            CHECK.yes("policy", y.policy(7, kind));
+            forge(y, type);
+            String code = Listing.withMeanings(y).last();
+            for (int other = 0; other < 4; other++) {
+                String mark = other == 2 ? codes[2] : "px/Callback." + codes[other] + " ";
+                CHECK.same("policy " + kind + ": " + mark, other == kind ? 1 : 0, code.contains(mark) ? 1 : 0);
+            }
+        }
     }
 
-    private static void wrongTypes() {
-        ProxyForge x = new ProxyForge();
-        int type = base(x, 1, 0, 0);
-        int face = x.type(true, 1, 0, 0);
-        int other = x.type(true, 1, 0, 0);
-        CHECK.illegal("no class", () -> x.forge(7, NONE, NONE, NONE));
-        CHECK.illegal("NONE as class", () -> x.forge(NONE, NONE, NONE, NONE));
-        CHECK.illegal("no interface", () -> x.forge(type, 7, NONE, NONE));
-        CHECK.illegal("no interface", () -> x.forge(type, -2, NONE, NONE));
-        CHECK.illegal("no interface", () -> x.forge(type, face, 20, NONE));
-        CHECK.illegal("no interface", () -> x.forge(type, face, other, 7));
-        CHECK.illegal("behind NONE", () -> x.forge(type, NONE, face, NONE));
-        CHECK.illegal("behind NONE", () -> x.forge(type, face, NONE, other));
-        CHECK.illegal("behind NONE", () -> x.forge(type, NONE, NONE, face));
-        CHECK.illegal("none, behind NONE", () -> x.forge(type, NONE, 99, NONE));
-        CHECK.illegal("of a refused class, too", () -> x.forge(face, NONE, NONE, other));
+    private static void noSuchPolicy() {
+        CHECK.of("Promise 7: false if there is none such");
+        int[][] wrong = {{-1, 0}, {10, 0}, {11, 1}, {0, -1}, {0, 4}, {9, 5}, {Integer.MIN_VALUE, 0},
+            {Integer.MAX_VALUE, 0}, {0, Integer.MIN_VALUE}, {0, Integer.MAX_VALUE}, {-1, -1}, {10, 4}};
+        Renewed x = new Renewed();
+        int type = base(x);
+        for (int name = 0; name < 10; name++) {
+            x.method(type, name, 1, 0, 1);
+            x.policy(name, 1);
+        }
+        for (int[] w : wrong) {
+            CHECK.no("policy(" + w[0] + ", " + w[1] + ")", x.policy(w[0], w[1]));
+        }
+        x.answer(1, 6);
+        forge(x, type);
+        for (int k = 0; k < 10; k++) {
+            CHECK.same("m" + k + " is still FIXED", 0, x.call(k, 0, 0, 0, 0));
+            CHECK.same("m" + k + " is still FIXED", 6, x.result());
+            CHECK.same("m" + k + " is still FIXED", NONE, x.given(0, 0));
+        }
+    }
+
+    private static void policiesByName() {
+        CHECK.of("POLICY by name");
+        Renewed x = new Renewed();
+        int type = base(x);
+        for (int name = 0; name < 10; name++) {
+            x.method(type, name, 1, 0, 1);
+            x.policy(name, name % 2 == 0 ? 2 : 1);
+        }
+        x.method(type, 3, 1, 1, 1);
+        x.method(type, 4, 1, 1, 1);
+        forge(x, type);
+        int asked = NONE;
+        for (int k = 0; k < 12; k++) {
+            x.call(k, 0, 0, 0, 0);
+            boolean asks = k < 10 ? k % 2 == 1 : k == 10;
+            asked = asks ? k : asked;
+            CHECK.same("asked after slot " + k, asked, x.asked());
+        }
+    }
+
+    private static void noSuchType() {
+        CHECK.of("Promise 8: IllegalArgumentException: there is no such type");
+        Renewed x = new Renewed();
+        int type = base(x);
+        int face = face(x);
+        int other = face(x);
+        for (int far : FAR) {
+            CHECK.illegal("the class " + far, () -> x.forge(far, NONE, NONE, NONE));
+            CHECK.illegal("the first interface " + far, () -> x.forge(type, far, NONE, NONE));
+            CHECK.illegal("the second interface " + far, () -> x.forge(type, face, far, NONE));
+            CHECK.illegal("the third interface " + far, () -> x.forge(type, face, other, far));
+        }
+        CHECK.illegal("the next one", () -> x.forge(7, NONE, NONE, NONE));
+        CHECK.illegal("the next one", () -> x.forge(type, 7, NONE, NONE));
+        CHECK.illegal("NONE is no class", () -> x.forge(NONE, NONE, NONE, NONE));
+        CHECK.illegal("NONE is no class", () -> x.forge(NONE, face, NONE, NONE));
+        CHECK.illegal("also of a class that would be refused", () -> x.forge(face, 7, NONE, NONE));
+        CHECK.illegal("also behind one that would be refused", () -> x.forge(type, type, 7, NONE));
         CHECK.same("no proxy", 0, x.size());
-        CHECK.same("right", 0, x.forge(type, face, other, NONE));
+    }
+
+    private static void oneBehindNone() {
+        CHECK.of("Promise 8: IllegalArgumentException: or one behind NONE");
+        Renewed x = new Renewed();
+        int type = base(x);
+        int face = face(x);
+        int other = face(x);
+        CHECK.illegal("second", () -> x.forge(type, NONE, face, NONE));
+        CHECK.illegal("third", () -> x.forge(type, NONE, NONE, face));
+        CHECK.illegal("second and third", () -> x.forge(type, NONE, face, other));
+        CHECK.illegal("third behind one", () -> x.forge(type, face, NONE, other));
+        CHECK.illegal("no such one", () -> x.forge(type, NONE, 99, NONE));
+        CHECK.illegal("no such one", () -> x.forge(type, face, NONE, -2));
+        CHECK.illegal("of a class that would be refused", () -> x.forge(face, NONE, NONE, other));
+        CHECK.same("no proxy", 0, x.size());
+    }
+
+    private static void upToThreeInterfaces() {
+        CHECK.of("Promise 8: A proxy is made of a class and up to three interfaces (NONE: no more)");
+        Renewed x = new Renewed();
+        int type = base(x);
+        int a = face(x);
+        int b = face(x);
+        int c = face(x);
+        String head = "49 p0/P p0/T4 [%s] 1 2 cb Lpx/Callback; 0";
+        CHECK.same("none", 0, x.forge(type, NONE, NONE, NONE));
+        CHECK.text("none", String.format(head, ""), Listing.withMeanings(x).head);
+        CHECK.same("one", 0, x.forge(type, b, NONE, NONE));
+        CHECK.text("one", String.format(head, "p0/T6"), Listing.withMeanings(x).head);
+        CHECK.same("two", 0, x.forge(type, c, a, NONE));
+        CHECK.text("two", String.format(head, "p0/T7, p0/T5"), Listing.withMeanings(x).head);
+        CHECK.same("three", 0, x.forge(type, b, c, a));
+        CHECK.text("three", String.format(head, "p0/T6, p0/T7, p0/T5"), Listing.withMeanings(x).head);
     }
 
     private static void refusedClass() {
-        ProxyForge x = new ProxyForge();
-        int face = x.type(true, 1, 0, 0);
-        int closed = base(x, 3, 0, 0);
+        CHECK.of("REFUSED 1: C is no class, or is FINAL");
+        Renewed x = new Renewed();
+        int face = face(x);
         CHECK.same("an interface", 1, forge(x, face));
-        CHECK.same("FINAL", 1, forge(x, closed));
+        CHECK.same("FINAL", 1, forge(x, Make.base(x, 2, 0, 0)));
+        CHECK.same("PUBLIC FINAL", 1, forge(x, Make.base(x, 3, 0, 0)));
+        CHECK.same("not PUBLIC", 0, forge(x, Make.base(x, 0, 0, 0)));
+        CHECK.same("PUBLIC", 0, forge(x, Make.base(x, 1, 0, 0)));
+        CHECK.same("ABSTRACT", 0, forge(x, Make.base(x, 4, 0, 0)));
+        CHECK.same("PUBLIC ABSTRACT", 0, forge(x, Make.base(x, 5, 0, 0)));
         for (int first = 0; first < 4; first++) {
             CHECK.same("type " + first, 0, forge(x, first));
-            slots("type " + first, x);
         }
-        CHECK.same("ABSTRACT", 0, forge(x, base(x, 4, 0, 0)));
     }
 
     private static void refusedConstructors() {
-        ProxyForge x = new ProxyForge();
-        int parent = base(x, 1, 0, 0);
+        CHECK.of("REFUSED 2: all its constructors are PRIVATE, or it has none");
+        Renewed x = new Renewed();
+        int parent = base(x);
         int type = x.type(false, 1, 0, parent);
-        x.method(type, 0, 1, 0, 0);
         CHECK.same("none of its own", 2, forge(x, type));
+        x.method(type, 0, 1, 0, 0);
+        CHECK.same("a method is none", 2, forge(x, type));
         x.method(type, 10, 4, 0, 0);
         CHECK.same("PRIVATE", 2, forge(x, type));
         x.method(type, 10, 4, 1, 0);
         CHECK.same("all PRIVATE", 2, forge(x, type));
-        x.method(type, 10, 0, 2, 0);
-        CHECK.same("one is PACKAGE", 0, forge(x, type));
+        for (int access : new int[] {0, 1, 2}) {
+            Renewed y = new Renewed();
+            int other = y.type(false, 1, 0, 0);
+            y.method(other, 10, 4, 1, 0);
+            y.method(other, 10, access, 2, 0);
+            y.method(other, 10, 4, 3, 0);
+            CHECK.same("one with access " + access, 0, forge(y, other));
+        }
     }
 
-    private static void refusedInterfaces() {
-        ProxyForge x = new ProxyForge();
-        int type = base(x, 1, 0, 0);
-        int face = x.type(true, 1, 1, 0);
-        int other = x.type(true, 1, 1, 0);
+    private static void refusedNoInterfaces() {
+        CHECK.of("REFUSED 3: one of I is no interface, or there twice");
+        Renewed x = new Renewed();
+        int type = base(x);
+        int a = face(x);
+        int b = face(x);
+        CHECK.same("the class itself", 3, forge(x, type, type));
+        CHECK.same("OBJECT", 3, forge(x, type, 0));
+        CHECK.same("a class behind one", 3, forge(x, type, a, type));
+        CHECK.same("a class behind two", 3, forge(x, type, a, b, 0));
+        CHECK.same("twice", 3, forge(x, type, a, a));
+        CHECK.same("twice, with one between", 3, forge(x, type, a, b, a));
+        CHECK.same("twice, behind one", 3, forge(x, type, b, a, a));
+        CHECK.same("thrice", 3, forge(x, type, b, b, b));
+        x.implement(type, a);
+        x.implement(b, a);
+        CHECK.same("what the class or another of I has is not there twice", 0, forge(x, type, b, a));
+    }
+
+    private static void refusedHiddenInterfaces() {
+        CHECK.of("REFUSED 4: one of I isn't PUBLIC and of another package than C's");
+        for (int place = 0; place < 3; place++) {
+            for (int flags = 0; flags <= 1; flags++) {
+                for (int pack = 0; pack < 4; pack++) {
+                    Renewed x = new Renewed();
+                    int type = Make.base(x, 1, 2, 0);
+                    int[] faces = new int[place + 1];
+                    for (int i = 0; i <= place; i++) {
+                        faces[i] = x.type(true, i == place ? flags : 1, pack, 0);
+                    }
+                    boolean hidden = flags == 0 && pack != 2;
+                    CHECK.same("at " + place + ", flags " + flags + ", package " + pack, hidden ? 4 : 0, forge(x, type, faces));
+                }
+            }
+        }
+        Renewed x = new Renewed();
+        int type = base(x);
         int near = x.type(true, 0, 0, 0);
         int far = x.type(true, 0, 1, 0);
-        CHECK.same("a class", 3, forge(x, type, type));
-        CHECK.same("a class behind others", 3, forge(x, type, face, other, 0));
-        CHECK.same("twice", 3, forge(x, type, face, face));
-        CHECK.same("twice, not next to each other", 3, forge(x, type, face, other, face));
-        CHECK.same("twice behind", 3, forge(x, type, other, face, face));
-        CHECK.same("not PUBLIC, of another package", 4, forge(x, type, face, far));
-        CHECK.same("not PUBLIC, of the same package", 0, forge(x, type, near, face));
-        CHECK.same("not PUBLIC, with a class in no package", 4, forge(x, 0, near));
-        CHECK.same("3 comes before 4", 3, forge(x, type, far, face, face));
-        x.implement(face, far);
-        CHECK.same("one that is only met is not looked at", 0, forge(x, type, face));
+        int open = x.type(true, 1, 1, 0);
+        CHECK.same("no package of px", 4, forge(x, 0, near));
+        CHECK.same("PUBLIC in px", 0, forge(x, 0, open));
+        x.implement(open, far);
+        CHECK.same("one that is only met is not looked at", 0, forge(x, type, open));
         x.implement(type, far);
         CHECK.same("nor one of the class", 0, forge(x, type));
+        CHECK.same("but one of I that the class has, too", 4, forge(x, type, far));
+        CHECK.same("one before it is right", 4, forge(x, type, near, far));
     }
 
+    /** Kinds: 8 the class T4, 9 its child T5, 10 an interface T6, 11 an interface T7 that has T6. */
     private static void refusedReturnedKinds() {
-        int[][] clashes = {{1, 2, 5}, {0, 1, 5}, {3, 4, 5}, {0, 4, 5}, {6, 7, 5}, {4, 5, 0}, {7, 5, 0}, {2, 2, 0}};
-        for (int[] c : clashes) {
-            ProxyForge x = new ProxyForge();
-            int type = base(x, 1, 0, 0);
-            int face = x.type(true, 1, 0, 0);
-            x.method(type, 1, 1, 1, c[0]);
-            x.method(face, 1, 1, 1, c[1]);
-            CHECK.same("returned kinds " + c[0] + ", " + c[1], c[2], forge(x, type, face));
+        CHECK.of("REFUSED 5: two slots, returned kinds that differ, and aren't types of which one is a subtype");
+        int[] kinds = {0, 1, 2, 3, 4, 5, 6, 7, 8, 9, 10, 11};
+        String[] agreeing = {
+            "100000000000", "010000000000", "001000000000", "000100000000", "000011111111", "000011110000",
+            "000011100000", "000011010000", "000010001100", "000010001100", "000010000011", "000010000011",
+        };
+        for (int a : kinds) {
+            for (int b : kinds) {
+                Renewed x = new Renewed();
+                int type = base(x);
+                x.type(false, 1, 0, type);
+                int face = face(x);
+                int below = face(x);
+                x.implement(below, face);
+                x.method(type, 1, 1, 1, a);
+                x.method(face, 1, 1, 1, b);
+                boolean agree = agreeing[a].charAt(b) == '1';
+                CHECK.same("returned kinds " + a + ", " + b, agree ? 0 : 5, forge(x, type, face));
+            }
         }
-        ProxyForge x = new ProxyForge();
-        int type = base(x, 1, 0, 0);
-        int face = x.type(true, 1, 0, 0);
-        int other = x.type(true, 1, 0, 0);
-        x.method(type, 1, 1, 0, 4 + face);
-        x.method(face, 1, 1, 0, 4 + other);
-        CHECK.same("types that are no subtypes", 5, forge(x, type, face));
-        x.implement(other, face);
-        CHECK.same("subtypes by now", 0, forge(x, type, face));
-        x.method(other, 2, 1, 0, 1);
-        x.method(type, 2, 17, 0, 2);
-        CHECK.same("FINAL methods are no slots, so they clash with none", 0, forge(x, type, other));
+    }
+
+    private static void onlySlotsClash() {
+        CHECK.of("REFUSED 5: two slots have the same name and parameters");
+        Renewed x = new Renewed();
+        int type = base(x);
+        int face = face(x);
         x.method(type, 3, 1, 1, 1);
+        x.method(type, 4, 1, 1, 2);
+        CHECK.same("other names", 0, forge(x, type));
         x.method(type, 3, 1, 2, 2);
+        x.method(type, 3, 1, Make.parameters(1, 1), 3);
         CHECK.same("other parameters", 0, forge(x, type));
+        x.method(type, 2, 17, 0, 2);
+        x.method(face, 2, 1, 0, 1);
+        CHECK.same("a FINAL method is no slot", 0, forge(x, type, face));
+        x.method(type, 2, 9, 0, 3);
+        x.method(type, 2, 4, 0, 4);
+        CHECK.same("nor a STATIC or PRIVATE one", 0, forge(x, type, face));
         x.method(type, 3, 1, 1, 2);
         CHECK.same("two of the class itself", 5, forge(x, type));
+        Renewed y = new Renewed();
+        int other = base(y);
+        int first = face(y);
+        int second = face(y);
+        y.method(other, 1, 1, 0, 4);
+        y.method(first, 1, 1, 0, 4 + first);
+        y.method(second, 1, 1, 0, 4 + second);
+        CHECK.same("both are of the first one's returned type, not of each other", 5, forge(y, other, first, second));
+        CHECK.same("one of them alone", 0, forge(y, other, second));
+        y.implement(second, first);
+        CHECK.same("a subtype by now", 0, forge(y, other, first, second));
     }
 
     private static void refusedSlots() {
-        ProxyForge x = new ProxyForge();
-        int type = base(x, 1, 0, 0);
+        CHECK.of("REFUSED 6: there are more than 24 slots");
+        Renewed x = new Renewed();
+        int type = base(x);
         for (int m = 0; m < 24; m++) {
             x.method(type, m % 10, 1, 1 + m / 10, 0);
         }
@@ -176,95 +332,343 @@ public final class ForgeTest {
         CHECK.same("the last", 28, x.slot(23));
         x.method(type, 9, 17, 3, 0);
         CHECK.same("a FINAL one more", 0, forge(x, type));
-        x.method(type, 8, 1, 3, 0);
-        CHECK.same("25 slots", 6, forge(x, type));
-        x.method(type, 0, 1, 1, 1);
-        CHECK.same("5 comes before 6", 5, forge(x, type));
-        CHECK.same("the one before stays", 24, x.slots());
+        int face = face(x);
+        x.method(face, 0, 33, 1, 0);
+        CHECK.same("one that is there already", 0, forge(x, type, face));
+        x.method(face, 8, 1, 3, 0);
+        CHECK.same("25 slots", 6, forge(x, type, face));
+        CHECK.same("24 without the interface", 0, forge(x, type));
     }
 
+    /** All sets of reasons: that of the lowest number is answered. */
     private static void firstRefusalCounts() {
-        ProxyForge x = new ProxyForge();
-        int closed = x.type(false, 2, 0, 0);
-        int type = x.type(false, 1, 0, 0);
-        int far = x.type(true, 0, 1, 0);
-        CHECK.same("1 before 2 and 3", 1, forge(x, closed, 0));
-        CHECK.same("2 before 3", 2, forge(x, type, 0));
-        CHECK.same("2 before 4", 2, forge(x, type, far));
-        x.method(type, 10, 1, 0, 0);
-        x.method(type, 1, 1, 0, 1);
-        x.method(type, 1, 1, 0, 2);
-        CHECK.same("4 before 5", 4, forge(x, type, far));
-        CHECK.same("5", 5, forge(x, type));
-    }
-
-    private static void orderOfClassesAndInterfaces() {
-        ProxyForge x = new ProxyForge();
-        int parent = base(x, 1, 0, 0);
-        int type = base(x, 1, 0, parent);
-        int[] face = new int[8];
-        for (int i = 0; i < 8; i++) {
-            face[i] = x.type(true, 1, 0, 0);
-            x.method(face[i], i, 33, 0, 1);
+        CHECK.of("REFUSED with the first of these");
+        for (int reasons = 0; reasons < 64; reasons++) {
+            for (int variant = 0; variant < 4; variant++) {
+                int due = reasons == 0 ? 0 : 1 + Integer.numberOfTrailingZeros(reasons);
+                CHECK.same("reasons " + Integer.toBinaryString(reasons), due, refusedBy(reasons, variant));
+            }
         }
-        int own = x.method(type, 9, 1, 0, 1);
-        int above = x.method(parent, 8, 1, 0, 1);
-        x.implement(type, face[3]);
-        x.implement(type, face[1]);
-        x.implement(face[3], face[5]);
-        x.implement(face[5], face[0]);
-        x.implement(parent, face[2]);
-        x.implement(face[2], face[5]);
-        x.implement(face[7], face[4]);
-        x.implement(face[7], face[1]);
-        int first = 6;
-        CHECK.same("forge", 0, forge(x, type, face[6], face[7], face[4]));
-        slots("classes, then interfaces one inside the other", x, own, above, first + 3, first + 5, first, first + 1,
-                first + 2, first + 6, first + 7, first + 4);
+        Renewed x = new Renewed();
+        int face = face(x);
+        int far = x.type(true, 0, 1, 0);
+        CHECK.same("an interface as C, one of I twice", 1, forge(x, face, face, face));
+        CHECK.same("an interface as C, one of I hidden", 1, forge(x, face, far));
     }
 
-    private static void whichMethodsAreSlots() {
-        ProxyForge x = new ProxyForge();
-        int parent = base(x, 5, 1, 0);
-        int type = base(x, 5, 0, parent);
-        int face = x.type(true, 1, 1, 0);
-        int hidden = x.method(parent, 0, 0, 0, 1);
-        int open = x.method(parent, 1, 2, 0, 1);
-        x.method(parent, 2, 9, 0, 1);
-        x.method(parent, 3, 4, 0, 1);
-        x.method(parent, 4, 17, 0, 1);
-        x.method(face, 4, 33, 0, 1);
-        int behindStatic = x.method(face, 2, 1, 0, 1);
-        int behindPrivate = x.method(face, 3, 1, 0, 1);
-        int behindHidden = x.method(face, 0, 1, 0, 1);
-        int near = x.method(type, 5, 0, 0, 1);
-        x.method(face, 1, 33, 0, 1);
-        int other = x.method(face, 1, 33, 1, 1);
-        CHECK.same("forge", 0, forge(x, type, face));
-        slots("another package", x, near, open, behindStatic, behindPrivate, behindHidden, other);
-        CHECK.same("forge", 0, forge(x, parent, face));
-        slots("its own package", x, hidden, open, behindStatic, behindPrivate, other);
-        int later = x.method(type, 4, 1, 0, 1);
-        CHECK.same("forge", 0, forge(x, type));
-        slots("the first one met counts", x, near, later, open);
+    private static int refusedBy(int reasons, int variant) {
+        Renewed x = new Renewed();
+        int type = x.type(false, has(reasons, 1) ? 3 : 1, 0, 0);
+        int hidden = x.type(true, 0, 1, 0);
+        int open = face(x);
+        if (!has(reasons, 2)) {
+            x.method(type, 10, 1, 0, 0);
+        } else if (variant % 2 == 0) {
+            x.method(type, 10, 4, 0, 0);
+        }
+        int clashing = has(reasons, 5) ? 2 : 0;
+        for (int i = 0; i < clashing; i++) {
+            x.method(type, 9, 1, 0, 1 + i);
+        }
+        for (int m = clashing; m < (has(reasons, 6) ? 25 : 24); m++) {
+            x.method(type, m % 9, 1, 1 + m / 9, 0);
+        }
+        int first = has(reasons, 4) ? hidden : open;
+        int second = has(reasons, 3) ? variant < 2 ? first : 0 : NONE;
+        return x.forge(type, first, second, NONE);
     }
 
-    private static void theOneBeforeStays() {
-        ProxyForge x = new ProxyForge();
-        int type = base(x, 1, 0, 0);
-        x.method(type, 1, 1, 0, 1);
+    private static boolean has(int reasons, int reason) {
+        return (reasons >> (reason - 1) & 1) == 1;
+    }
+
+    private static void inPlaceOfTheOneBefore() {
+        CHECK.of("Promise 8: in place of the one before");
+        Renewed x = new Renewed();
+        int type = base(x);
+        int m = x.method(type, 1, 1, 0, 1);
         forge(x, type);
         int size = x.size();
-        x.change(20, 1);
-        x.cut(size - 1);
-        CHECK.same("refused", 3, forge(x, type, type));
-        CHECK.same("size", size - 1, x.size());
-        CHECK.same("byte", 1, x.byteAt(20));
-        slots("refused", x, 5);
-        CHECK.same("made anew", 0, forge(x, type));
+        slots("the first", x, m);
+        CHECK.same("of OBJECT", 0, forge(x, 0));
+        slots("of OBJECT", x);
+        CHECK.same("size", 182, x.size());
+        CHECK.illegal("its slots are gone", () -> x.call(0, 0, 0, 0, 0));
+        CHECK.same("again", 0, forge(x, type));
         CHECK.same("size", size, x.size());
-        CHECK.same("read", NONE, x.read());
-        CHECK.same("of another class", 0, forge(x, 0));
-        slots("of another class", x);
+        x.change(0, 0);
+        x.cut(5);
+        CHECK.same("again", 0, forge(x, type));
+        CHECK.same("the bytes are new ones", size, x.size());
+        CHECK.same("the bytes are new ones", NONE, x.read());
+        int later = x.method(type, 2, 1, 0, 1);
+        slots("a method that was made later", x, m);
+        forge(x, type);
+        slots("is a slot of the next one", x, m, later);
+    }
+
+    /** Each refusal, with a proxy before it whose file was changed and whose slot was called. */
+    private static void theOneBeforeStays() {
+        CHECK.of("Promise 8: REFUSED (the one before stays)");
+        for (int reason = 1; reason <= 7; reason++) {
+            Renewed x = new Renewed();
+            int type = base(x);
+            int m = x.method(type, 1, 1, 1, 1);
+            int closed = x.type(false, 2, 0, 0);
+            int privat = x.type(false, 1, 0, 0);
+            int clashing = Make.base(x, 1, 0, 0);
+            x.method(clashing, 1, 1, 0, 1);
+            x.method(clashing, 1, 1, 0, 2);
+            int full = Make.base(x, 1, 0, 0);
+            for (int i = 0; i < 25; i++) {
+                x.method(full, i % 10, 1, 1 + i / 10, 0);
+            }
+            int far = x.type(true, 0, 1, 0);
+            forge(x, type);
+            int size = x.size();
+            x.answer(1, 55);
+            CHECK.same("call", 0, x.call(0, 7, 0, 0, 0));
+            x.change(20, 1);
+            x.cut(size - 1);
+            x.policy(1, 2);
+            int[][] told = {{closed}, {privat}, {type, 0}, {type, far}, {clashing}, {full}};
+            if (reason < 7) {
+                int[] t = told[reason - 1];
+                CHECK.same("refused", reason, x.forge(t[0], t.length > 1 ? t[1] : NONE, NONE, NONE));
+            } else {
+                CHECK.illegal("refused", () -> x.forge(type, NONE, far, NONE));
+            }
+            CHECK.same("size", size - 1, x.size());
+            CHECK.same("byte", 1, x.byteAt(20));
+            slots("refused", x, m);
+            CHECK.same("asked", 0, x.asked());
+            CHECK.same("given", 7, x.given(0, 1));
+            CHECK.same("result", 55, x.result());
+            CHECK.same("its call, still INTERCEPTED", 0, x.call(0, 8, 0, 0, 0));
+            CHECK.same("its result", 55, x.result());
+            CHECK.same("its arguments", 8, x.given(0, 1));
+        }
+    }
+
+    private static void slotNumbers() {
+        CHECK.of("Promises 9, 10: How many slots the proxy has; the method of a slot, NONE if there is none");
+        Renewed x = new Renewed();
+        CHECK.same("without a proxy", 0, x.slots());
+        int type = base(x);
+        int first = x.method(type, 5, 1, 0, 0);
+        int second = x.method(type, 4, 1, 0, 0);
+        CHECK.same("before it is made", 0, x.slots());
+        forge(x, type);
+        slots("two", x, first, second);
+        for (int far : new int[] {Integer.MIN_VALUE, -2, -1, 2, 3, 23, 24, 25, 60, Integer.MAX_VALUE}) {
+            CHECK.same("slot(" + far + ")", NONE, x.slot(far));
+        }
+        Renewed y = new Renewed();
+        int full = base(y);
+        for (int i = 0; i < 24; i++) {
+            y.method(full, i % 10, 1, 1 + i / 10, 0);
+        }
+        forge(y, full);
+        for (int k = 0; k < 24; k++) {
+            CHECK.same("slot(" + k + ")", 5 + k, y.slot(k));
+        }
+        CHECK.same("slot(24)", NONE, y.slot(24));
+        forge(y, 0);
+        CHECK.same("slot(0) of OBJECT", NONE, y.slot(0));
+        CHECK.same("slot(23) of OBJECT", NONE, y.slot(23));
+    }
+
+    private static void classesUpToObject() {
+        CHECK.of("COLLECTING: C, its parent and so on to 0; then the interfaces");
+        Renewed x = new Renewed();
+        int top = base(x);
+        int middle = Make.base(x, 5, 1, top);
+        int type = Make.base(x, 1, 2, middle);
+        int face = face(x);
+        int m3 = x.method(face, 3, 1, 0, 0);
+        int m2 = x.method(top, 2, 1, 0, 0);
+        int m1 = x.method(middle, 1, 33, 0, 0);
+        int m0 = x.method(type, 0, 1, 0, 0);
+        x.implement(type, face);
+        forge(x, type);
+        slots("of the lowest", x, m0, m1, m2, m3);
+        forge(x, middle);
+        slots("of the middle", x, m1, m2);
+        forge(x, top);
+        slots("of the top", x, m2);
+        forge(x, 1);
+        slots("of THROWABLE", x);
+    }
+
+    private static void interfacesOfClasses() {
+        CHECK.of("COLLECTING: the interfaces of C, those of its parent (in the order in which they were given to it), then I");
+        Renewed x = new Renewed();
+        int parent = base(x);
+        int type = Make.base(x, 1, 0, parent);
+        int[] m = new int[7];
+        int[] faces = new int[7];
+        for (int i = 0; i < 7; i++) {
+            faces[i] = face(x);
+            m[i] = x.method(faces[i], i, 33, 0, 0);
+        }
+        x.implement(parent, faces[1]);
+        x.implement(parent, faces[0]);
+        x.implement(type, faces[5]);
+        x.implement(type, faces[4]);
+        forge(x, type, faces[6], faces[3], faces[2]);
+        slots("own, the parent's, those of I", x, m[5], m[4], m[1], m[0], m[6], m[3], m[2]);
+    }
+
+    private static void interfacesInside() {
+        CHECK.of("COLLECTING: each interface, then at once in the same way its own interfaces");
+        Renewed x = new Renewed();
+        int type = base(x);
+        int[] m = new int[8];
+        int[] faces = new int[8];
+        for (int i = 0; i < 8; i++) {
+            faces[i] = face(x);
+            m[i] = x.method(faces[i], i, 33, 0, 0);
+        }
+        x.implement(type, faces[7]);
+        x.implement(type, faces[0]);
+        x.implement(faces[7], faces[3]);
+        x.implement(faces[7], faces[1]);
+        x.implement(faces[3], faces[6]);
+        x.implement(faces[6], faces[2]);
+        x.implement(faces[5], faces[4]);
+        forge(x, type, faces[5]);
+        slots("one inside the other", x, m[7], m[3], m[6], m[2], m[1], m[0], m[5], m[4]);
+    }
+
+    private static void metOnce() {
+        CHECK.of("COLLECTING: each interface that wasn't met yet");
+        Renewed x = new Renewed();
+        int type = base(x);
+        int[] m = new int[4];
+        int[] faces = new int[4];
+        for (int i = 0; i < 4; i++) {
+            faces[i] = face(x);
+            m[i] = x.method(faces[i], i, 33, 0, 0);
+        }
+        x.implement(type, faces[1]);
+        x.implement(faces[1], faces[0]);
+        x.implement(faces[2], faces[0]);
+        x.implement(faces[2], faces[3]);
+        x.implement(faces[3], faces[1]);
+        forge(x, type, faces[0], faces[3], faces[2]);
+        slots("where it was met first", x, m[1], m[0], m[3], m[2]);
+    }
+
+    private static void methodsByNumber() {
+        CHECK.of("COLLECTING: Of each type the methods by number; slots are numbered as they are met");
+        Renewed x = new Renewed();
+        int parent = base(x);
+        int type = x.type(false, 1, 0, parent);
+        int a = x.method(type, 9, 1, 3, 1);
+        int above = x.method(parent, 5, 1, 0, 1);
+        int b = x.method(type, 0, 1, 0, 1);
+        x.method(type, 10, 1, 0, 0);
+        int c = x.method(type, 9, 1, 1, 1);
+        forge(x, type);
+        slots("by number, type by type", x, a, b, c, above);
+    }
+
+    private static void whatIsNoSlot() {
+        CHECK.of("COLLECTING: those that are no constructors, STATIC or PRIVATE");
+        Renewed x = new Renewed();
+        int parent = base(x);
+        int type = base(x);
+        int child = Make.base(x, 1, 0, type);
+        x.method(type, 10, 2, 1, 0);
+        x.method(type, 1, 9, 0, 1);
+        x.method(type, 2, 4, 0, 1);
+        x.method(type, 3, 8, 0, 1);
+        x.method(type, 4, 12, 0, 1);
+        x.method(type, 5, 26, 0, 1);
+        x.method(parent, 6, 1, 0, 1);
+        int open = x.method(type, 7, 2, 0, 1);
+        forge(x, type);
+        slots("of the class", x, open);
+        forge(x, child);
+        slots("of its child", x, open);
+    }
+
+    private static void packageMethods() {
+        CHECK.of("COLLECTING: nor PACKAGE of another package than C's");
+        for (int pack = 0; pack < 4; pack++) {
+            Renewed x = new Renewed();
+            int parent = Make.base(x, 1, 1, 0);
+            int type = Make.base(x, 1, pack, parent);
+            int near = x.method(parent, 1, 0, 0, 1);
+            int open = x.method(parent, 2, 2, 0, 1);
+            int all = x.method(parent, 3, 1, 0, 1);
+            int own = x.method(type, 4, 0, 0, 1);
+            forge(x, type);
+            if (pack == 1) {
+                slots("of the same package", x, own, near, open, all);
+            } else {
+                slots("of another package", x, own, open, all);
+            }
+        }
+        Renewed x = new Renewed();
+        int top = Make.base(x, 1, 1, 0);
+        int middle = Make.base(x, 1, 0, top);
+        int type = Make.base(x, 1, 1, middle);
+        int near = x.method(top, 1, 0, 0, 1);
+        x.method(middle, 2, 0, 0, 1);
+        forge(x, type);
+        slots("another package between does not matter", x, near);
+    }
+
+    private static void theFirstOneMetCounts() {
+        CHECK.of("COLLECTING: The first one met with a name, parameters and returned kind counts");
+        Renewed x = new Renewed();
+        int parent = Make.base(x, 5, 0, 0);
+        int type = Make.base(x, 5, 0, parent);
+        int face = face(x);
+        x.method(face, 1, 33, 0, 1);
+        x.method(parent, 1, 33, 0, 1);
+        int own = x.method(type, 1, 34, 0, 1);
+        int above = x.method(parent, 2, 2, 1, 1);
+        x.method(face, 2, 33, 1, 1);
+        int otherParameters = x.method(face, 2, 33, 2, 1);
+        int otherName = x.method(face, 3, 33, 1, 1);
+        forge(x, type, face);
+        slots("of those alike the first", x, own, above, otherParameters, otherName);
+        Renewed y = new Renewed();
+        int base = base(y);
+        int child = y.type(false, 1, 0, base);
+        int first = face(y);
+        int second = face(y);
+        int object = y.method(base, 1, 1, 0, 4);
+        int same = y.method(first, 1, 1, 0, 4 + base);
+        y.method(second, 1, 1, 0, 4);
+        int below = y.method(second, 1, 33, 0, 4 + child);
+        y.method(second, 1, 33, 0, 4 + base);
+        CHECK.same("another returned kind counts for itself", 0, forge(y, base, first, second));
+        slots("another returned kind", y, object, same, below);
+    }
+
+    private static void finalOnesAreNoSlots() {
+        CHECK.of("COLLECTING: it is a SLOT, if it isn't FINAL");
+        Renewed x = new Renewed();
+        int parent = Make.base(x, 1, 1, 0);
+        int type = Make.base(x, 1, 0, parent);
+        int face = face(x);
+        x.method(type, 1, 17, 0, 1);
+        x.method(parent, 1, 1, 0, 1);
+        x.method(face, 1, 33, 0, 1);
+        x.method(parent, 2, 18, 0, 1);
+        x.method(face, 2, 33, 0, 1);
+        x.method(parent, 3, 16, 0, 1);
+        int behindHidden = x.method(face, 3, 33, 0, 1);
+        x.method(parent, 4, 25, 0, 1);
+        int behindStatic = x.method(face, 4, 33, 0, 1);
+        x.method(parent, 5, 20, 0, 1);
+        int behindPrivate = x.method(face, 5, 33, 0, 1);
+        x.method(parent, 6, 17, 0, 1);
+        int overriding = x.method(type, 6, 1, 0, 1);
+        forge(x, type, face);
+        slots("a FINAL one that was met hides the others", x, overriding, behindHidden, behindStatic, behindPrivate);
     }
 }

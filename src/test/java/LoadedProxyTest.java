@@ -13,7 +13,8 @@ import java.util.Random;
 /** Promises 8 and 11 to 17: the JVM itself verifies the files, and what it does when it runs them is what call tells. */
 public final class LoadedProxyTest {
     private static final Check CHECK = new Check();
-    private static final int RUNS = 400;
+    private static final int RUNS = 600;
+    private static final int USES = 8;
     private static final String[] FIRST_NAMES =
             {"java/lang/Object", "java/lang/Throwable", "java/lang/Error", "java/lang/RuntimeException"};
 
@@ -45,7 +46,7 @@ public final class LoadedProxyTest {
     private final String label;
     // The JVM lets no class call a protected method of another package's object: such runs have one package.
     private final boolean mixed;
-    private final ProxyForge x = new ProxyForge();
+    private final Renewed x = new Renewed();
     private final List<String> names = new ArrayList<>(List.of(FIRST_NAMES));
     private final List<Boolean> isFace = new ArrayList<>(List.of(false, false, false, false));
     private final List<Integer> parents = new ArrayList<>(List.of(-1, 0, 1, 1));
@@ -227,10 +228,7 @@ public final class LoadedProxyTest {
     }
 
     private void load(int type, int[] outcomes) throws Exception {
-        byte[] file = new byte[x.size()];
-        for (int k = 0; k < file.length; k++) {
-            file[k] = (byte) x.byteAt(k);
-        }
+        byte[] file = Make.bytes(x);
         String name = type < 4 ? "px/P" : names.get(type).substring(0, 2) + "/P";
         loader.files.put(name, file);
         Class<?> made;
@@ -276,7 +274,7 @@ public final class LoadedProxyTest {
                 return;
             }
             real.setAccessible(true);
-            for (int i = 0; i < 12; i++) {
+            for (int i = 0; i < USES && x.room() > 2; i++) {
                 changeAnswer();
                 use(proxy, k, m, real, outcomes);
             }
