@@ -1,3 +1,7 @@
+import java.util.Arrays;
+import java.util.Set;
+import java.util.TreeSet;
+
 /** Promises 11 to 15: what the callback answers, calls and their outcomes, what was asked and given. */
 public final class CallTest {
     private static final Check CHECK = new Check();
@@ -34,6 +38,7 @@ public final class CallTest {
         thrownByIntercepted();
         thrownByOthers();
         notUndeclared();
+        outcomesByPolicy();
         policyOfWhenItWasMade();
         throwsOfWhenItWasMade();
         subtypesAsTheyAreNow();
@@ -244,7 +249,7 @@ public final class CallTest {
                     }
                     Make.forge(x, CLASS);
                     x.answer(5, thrown[t]);
-                    outcome("thrown " + thrown[t] + ", said " + java.util.Arrays.toString(said[s]), x,
+                    outcome("thrown " + thrown[t] + ", said " + Arrays.toString(said[s]), x,
                             due[s].charAt(2 * t) - '0', thrown[t]);
                 }
             }
@@ -279,6 +284,28 @@ public final class CallTest {
         x.policy(2, SUPER);
         Make.forge(x, CLASS);
         CHECK.same("ABSTRACT", 5, x.call(1, 0, 0, 0, 0));
+    }
+
+    private static void outcomesByPolicy() {
+        CHECK.of("The outcomes, 0 .. 5, that a slot of each POLICY can have");
+        String[] due = {"[0, 1, 2, 3, 4]", "[0, 1, 2, 3]", "[0, 5]", "[0, 1, 2, 3, 5]"};
+        for (int policy = 0; policy < 4; policy++) {
+            Set<Integer> found = new TreeSet<>();
+            for (int flags : new int[] {PUBLIC, ABSTRACT}) {
+                for (int returned : RETURNED) {
+                    Renewed x = one(policy, flags, 0, returned);
+                    for (int[] answer : ANSWERS) {
+                        x.answer(answer[0], answer[1]);
+                        found.add(x.call(0, 0, 0, 0, 0));
+                    }
+                    for (int thrown = CHECKED; thrown <= OWN_RUNTIME; thrown++) {
+                        x.answer(5, thrown);
+                        found.add(x.call(0, 0, 0, 0, 0));
+                    }
+                }
+            }
+            CHECK.text("policy " + policy, due[policy], found.toString());
+        }
     }
 
     private static void policyOfWhenItWasMade() {
@@ -500,7 +527,7 @@ public final class CallTest {
         CHECK.of("Promise 15: NONE if there is none, or for another what");
         for (int n = 0; n <= 4; n++) {
             int[] kinds = new int[n];
-            java.util.Arrays.fill(kinds, 1);
+            Arrays.fill(kinds, 1);
             Renewed x = one(INTERCEPTED, PUBLIC, Make.parameters(kinds), 0);
             given("before any", x, 0, NONE, NONE);
             x.call(0, 5, 5, 5, 5);

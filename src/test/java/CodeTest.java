@@ -268,6 +268,12 @@ public final class CodeTest {
         CHECK.yes("three", slot.endsWith(guarded(14, "p3/T7", "p2/T6", "java/lang/RuntimeException")
                 + " Exceptions 8 [p3/T7, p2/T6, java/lang/RuntimeException]"));
         CHECK.text("numbers", "2: 103 4 2 27:", numbers(slot));
+        int next = x.method(4, 2, 1, 0, 0);
+        x.throwing(next, 1);
+        Make.forge(x, 4);
+        List<String> methods = Listing.withMeanings(x).methods;
+        CHECK.yes("still those of its own alone", methods.get(1).equals(slot));
+        CHECK.yes("the next one throws THROWABLE", methods.get(2).contains(" 177 [] 0 Exceptions 4 [java/lang/Throwable]"));
         for (int policy : new int[] {FIXED, SUPER, DISPATCHED}) {
             CHECK.yes("none for policy " + policy, slot(policy, PUBLIC, 0, 0, 3).contains(" 177 [] 0 Exceptions "));
         }

@@ -83,7 +83,7 @@ public final class FaceTest {
     private static Renewed great(Model y) {
         Renewed x = new Renewed();
         for (int t = 4; t < 20; t++) {
-            int parent = t < 8 ? 1 : 0;
+            int parent = t < 16 ? 1 : 0;
             CHECK.same("type", y.type(t > 16, 1, t % 4, parent), x.type(t > 16, 1, t % 4, parent));
         }
         for (int i = 0; i < 32; i++) {
@@ -98,7 +98,7 @@ public final class FaceTest {
             CHECK.same("method", y.method(4, name, 1, parameters, 0), x.method(4, name, 1, parameters, 0));
         }
         for (int m = 4; m < 60; m++) {
-            for (int thrown : new int[] {3, 2, 4 + m % 4}) {
+            for (int thrown : new int[] {3, 2, 4 + m % 12}) {
                 y.throwing(m, thrown);
                 x.throwing(m, thrown);
             }
@@ -106,14 +106,16 @@ public final class FaceTest {
         return x;
     }
 
+    /** All slots with one policy, at last all but one DISPATCHED: so the pool has the most entries. */
     private static void greatestFile() {
         CHECK.of("THE FILE, as great as can be");
-        for (int policy = 0; policy < 4; policy++) {
+        for (int policy = 0; policy <= 4; policy++) {
             Model y = new Model();
             Renewed x = great(y);
             for (int name = 0; name < 10; name++) {
-                y.policy(name, policy);
-                x.policy(name, policy);
+                int kind = policy < 4 ? policy : name == 9 ? 0 : 3;
+                y.policy(name, kind);
+                x.policy(name, kind);
             }
             CHECK.same("forge", 0, y.forge(4, 17, 18, 19));
             CHECK.same("forge", 0, x.forge(4, 17, 18, 19));
@@ -124,7 +126,8 @@ public final class FaceTest {
                 CHECK.same("byteAt(" + k + ")", y.byteAt(k), x.byteAt(k));
             }
             CHECK.same("read", NONE, x.read());
-            int entries = (x.byteAt(8) << 8) + x.byteAt(9);
+            int entries = (x.byteAt(8) << 8) + x.byteAt(9) - 1;
+            CHECK.yes("entries are more than a byte can count", policy < 4 || entries > 260);
             System.out.println("policy " + policy + ": " + x.size() + " bytes, " + entries + " entries");
         }
     }

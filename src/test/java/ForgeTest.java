@@ -26,6 +26,7 @@ public final class ForgeTest {
         interfacesOfClasses();
         interfacesInside();
         metOnce();
+        theirInterfacesAlone();
         methodsByNumber();
         whatIsNoSlot();
         packageMethods();
@@ -212,6 +213,12 @@ public final class ForgeTest {
             y.method(other, 10, 4, 3, 0);
             CHECK.same("one with access " + access, 0, forge(y, other));
         }
+        Renewed y = new Renewed();
+        int full = y.type(false, 1, 0, 0);
+        for (int m = 4; m < 60; m++) {
+            y.method(full, m % 10, 17, 1 + m / 10, 0);
+        }
+        CHECK.same("none among all the methods that there may be", 2, forge(y, full));
     }
 
     private static void refusedNoInterfaces() {
@@ -318,6 +325,14 @@ public final class ForgeTest {
         CHECK.same("one of them alone", 0, forge(y, other, second));
         y.implement(second, first);
         CHECK.same("a subtype by now", 0, forge(y, other, first, second));
+        Renewed z = new Renewed();
+        int clashing = base(z);
+        int quiet = base(z);
+        z.method(clashing, 1, 1, 0, 1);
+        z.method(clashing, 1, 1, 0, 2);
+        z.method(quiet, 1, 1, 0, 1);
+        CHECK.same("they clash", 5, forge(z, clashing));
+        CHECK.same("with those of this proxy alone", 0, forge(z, quiet));
     }
 
     private static void refusedSlots() {
@@ -557,6 +572,62 @@ public final class ForgeTest {
         x.implement(faces[3], faces[1]);
         forge(x, type, faces[0], faces[3], faces[2]);
         slots("where it was met first", x, m[1], m[0], m[3], m[2]);
+        Renewed y = new Renewed();
+        int[] many = new int[10];
+        for (int i = 0; i < 10; i++) {
+            many[i] = face(y);
+            y.method(many[i], i, 33, 0, 0);
+        }
+        for (int i = 0; i < 7; i++) {
+            y.implement(many[i], many[i + 1]);
+            y.implement(many[i], many[i + 2]);
+        }
+        CHECK.same("forge", 0, forge(y, 0, many[0], many[9]));
+        slots("many ways lead to the same ones", y, 4, 5, 6, 7, 8, 9, 10, 11, 12, 13);
+        Renewed z = new Renewed();
+        int[] chain = new int[16];
+        for (int i = 0; i < 16; i++) {
+            chain[i] = face(z);
+            z.method(chain[i], i % 10, 33, i / 10, 0);
+            if (i > 0) {
+                z.implement(chain[i - 1], chain[i]);
+            }
+        }
+        CHECK.same("forge", 0, forge(z, 0, chain[0]));
+        slots("one inside the other, as deep as can be", z, 4, 5, 6, 7, 8, 9, 10, 11, 12, 13, 14, 15, 16, 17, 18, 19);
+    }
+
+    private static void theirInterfacesAlone() {
+        CHECK.of("COLLECTING: its own interfaces, of a type that has four, and of the last type that there may be");
+        Renewed x = new Renewed();
+        int[] faces = new int[10];
+        for (int i = 0; i < 10; i++) {
+            faces[i] = face(x);
+            x.method(faces[i], i, 33, 0, 0);
+        }
+        int type = base(x);
+        int next = base(x);
+        int inner = face(x);
+        int behindInner = face(x);
+        int last = face(x);
+        for (int type19 = last + 1; type19 < 19; type19++) {
+            face(x);
+        }
+        int end = base(x);
+        CHECK.same("the last type", 19, end);
+        for (int i = 0; i < 4; i++) {
+            x.implement(type, faces[i]);
+            x.implement(inner, faces[3 - i]);
+            x.implement(end, faces[2 * i]);
+        }
+        x.implement(next, faces[9]);
+        x.implement(behindInner, faces[9]);
+        forge(x, type);
+        slots("of the class alone", x, 4, 5, 6, 7);
+        forge(x, 0, inner);
+        slots("of the interface alone", x, 7, 6, 5, 4);
+        forge(x, end);
+        slots("of the last type", x, 4, 6, 8, 10);
     }
 
     private static void methodsByNumber() {

@@ -367,6 +367,14 @@ public final class MethodsTest {
         CHECK.illegal("a fourth", () -> x.throwing(m, THROWN));
         x.throwing(other, THROWN);
         CHECK.illegal("another method has its own", () -> x.throwing(other, THROWN));
+        Renewed y = some();
+        for (int i = 4; i < 60; i++) {
+            y.method(CLASS, i % 10, 1, 1 + i / 10, 0);
+        }
+        y.throwing(59, 2);
+        y.throwing(59, 3);
+        y.throwing(59, THROWN);
+        CHECK.illegal("a fourth of the last method that there may be", () -> y.throwing(59, 1));
     }
 
     private static void refusedThrowsAreNotThere() {

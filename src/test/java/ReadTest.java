@@ -46,6 +46,7 @@ public final class ReadTest {
         handlers();
         howManyHandlers();
         tables();
+        otherTexts();
         exceptions();
         lengthsWhenRead();
         lastAndNoMore();
@@ -295,6 +296,8 @@ public final class ReadTest {
         fault("a second number before the next entry's", 101, ReadTest::ofObject, 102, 99, 105, 99);
         fault("the last entry's number before what follows", 122, ReadTest::ofObject, 123, 99, BODY, 1);
         fault("a number of a later entry is right", NONE, ReadTest::ofObject, 19, 12);
+        fault("the first entry as a CLASS of itself, a TEXT put in behind it", 11, ReadTest::ofObject,
+                9, 16, 10, 7, 12, 1, 13, 1, 14, 0, 15, 1);
     }
 
     private static void classAndParent() {
@@ -381,6 +384,9 @@ public final class ReadTest {
         fault("Cod, with e as the next tag", 97, ReadTest::ofObject, 93, 3);
         fault("a class named Code is no TEXT", METHOD + 8, ReadTest::ofObject, 19, 9, METHOD + 9, 2);
         fault("cb is shorter", METHOD + 8, ReadTest::ofObject, METHOD + 9, 5);
+        fault("Co is shorter", METHOD + 8, ReadTest::ofObject, 45, 'C', 46, 'o', METHOD + 9, 5);
+        fault("Codeit is longer", METHOD + 8, ReadTest::ofObject, 66, 'C', 67, 'o', 68, 'd', 69, 'e', METHOD + 9, 7);
+        fault("px/P as Code", NONE, ReadTest::ofObject, 13, 'C', 14, 'o', 15, 'd', 16, 'e', METHOD + 9, 1);
         fault("any depth and locals", NONE, ReadTest::ofObject, METHOD + 14, 255, METHOD + 15, 0, METHOD + 16, 255);
     }
 
@@ -477,6 +483,33 @@ public final class ReadTest {
         for (int k = 0; k < 10; k++) {
             fault("any frames", NONE, ReadTest::withSlot, table + 8 + k, 255);
         }
+    }
+
+    /** Where a TEXT of a new file begins, and its number: other letters are put there, and a number of the file is its. */
+    private static void otherText(String what, int due, int number, String text, String letters) {
+        Renewed x = withSlot();
+        List<String> pool = Listing.withNumbers(x).pool;
+        int entry = pool.indexOf(text) + 1;
+        int place = new String(Make.bytes(x), java.nio.charset.StandardCharsets.ISO_8859_1).indexOf(text);
+        for (int i = 0; i < letters.length(); i++) {
+            x.change(place + i, letters.charAt(i));
+        }
+        x.change(number + 1, entry);
+        CHECK.same(what + ": " + letters + " in " + text, due, x.read());
+    }
+
+    private static void otherTexts() {
+        CHECK.of("READING: a TEXT that is StackMapTable; a TEXT that is Exceptions");
+        int size = size(ReadTest::withSlot);
+        int table = size - 2 - SLOT_BYTES + 93;
+        int exceptions = size - 2 - 12;
+        otherText("shorter", table, table, "cb", "St");
+        otherText("longer", table, table, "java/lang/RuntimeException", "StackMapTable");
+        otherText("as long, but not that", table, table, "Lpx/Callback;", "StackMapTablf");
+        otherText("another one that is it", NONE, table, "Lpx/Callback;", "StackMapTable");
+        otherText("shorter", exceptions, exceptions, "cb", "Ex");
+        otherText("longer", exceptions, exceptions, "java/lang/RuntimeException", "Exceptions");
+        otherText("longer by one letter", exceptions, exceptions, "px/Callback", "Exceptions");
     }
 
     private static void exceptions() {

@@ -223,6 +223,14 @@ public final class TypesTest {
             CHECK.yes("another type has its own four", x.isSubtype(other, 8));
             CHECK.no("another type has its own four", x.isSubtype(other, 7));
         }
+        Renewed x = faces(15);
+        int last = x.type(false, 1, 0, 0);
+        CHECK.same("the last type that there may be", 19, last);
+        for (int i = 4; i < 8; i++) {
+            x.implement(last, i);
+        }
+        CHECK.illegal("a fifth", () -> x.implement(last, 8));
+        CHECK.illegal("the fourth again", () -> x.implement(last, 7));
     }
 
     private static void isSubtypeOfIt() {
