@@ -1047,11 +1047,11 @@ public final class ProxyForge {
             return settled(start);
         }
 
-        int descriptor(String before, int parameters, int returned) {
+        int descriptor(String firstLetters, int parameters, int returned) {
             int start = file.used;
             file.three(TEXT, 0);
             file.one('(');
-            file.letters(before);
+            file.letters(firstLetters);
             int n = Kinds.howMany(parameters);
             for (int i = 0; i < n; i++) {
                 kindLetters(Kinds.digit(parameters, i));
@@ -1138,11 +1138,13 @@ public final class ProxyForge {
                 sum = 31 * sum + file.get(i);
             }
             int bucket = sum & (BUCKETS - 1);
-            for (int entry = newest[bucket]; entry > 0; entry = before[entry]) {
+            int entry = newest[bucket];
+            for (int left = count; left > 0 && entry > 0; left--) {
                 if (file.repeats(places[entry], start)) {
                     file.used = start;
                     return entry;
                 }
+                entry = before[entry];
             }
             count++;
             if (count >= places.length) {
@@ -1329,13 +1331,13 @@ public final class ProxyForge {
             return n;
         }
 
-        private void head(int m, int more, String before, int attributes) {
+        private void head(int m, int more, String firstLetters, int attributes) {
             int access = methods.hasFlag(m, Methods.PUBLIC) ? 1 : 0;
             if (methods.hasFlag(m, Methods.PROTECTED)) {
                 access = 4;
             }
             ownName = pool.methodName(methods.name[m]);
-            ownDescriptor = pool.descriptor(before, methods.parameters[m], methods.returned[m]);
+            ownDescriptor = pool.descriptor(firstLetters, methods.parameters[m], methods.returned[m]);
             body.two(access + more);
             body.two(ownName);
             body.two(ownDescriptor);

@@ -1,9 +1,9 @@
 import java.lang.management.ManagementFactory;
-import java.lang.reflect.Constructor;
-import java.lang.reflect.Field;
 import java.lang.reflect.Member;
 import java.lang.reflect.Method;
 import java.lang.reflect.Modifier;
+import java.util.ArrayList;
+import java.util.List;
 import java.util.Set;
 import java.util.TreeSet;
 
@@ -15,12 +15,18 @@ public final class FaceTest {
     // A run has room for 7.3 million fields and elements, of four bytes or more each.
     private static final long MOST_BYTES = 4 * 7_300_000;
     private static final Set<String> FACE = Set.of(
-            "NONE int", "ProxyForge []", "type [boolean, int, int, int] int", "implement [int, int] void",
-            "method [int, int, int, int, int] int", "throwing [int, int] void", "isSubtype [int, int] boolean",
-            "policy [int, int] boolean", "forge [int, int, int, int] int",
-            "slots [] int", "slot [int] int", "answer [int, long] void", "call [int, long, long, long, long] int",
-            "result [] long", "asked [] int", "given [int, int] long", "size [] int", "byteAt [int] int",
-            "change [int, int] boolean", "cut [int] boolean", "read [] int");
+            "public static final int NONE", "public ProxyForge()",
+            "public int type(boolean, int, int, int) throws IllegalArgumentException, IllegalStateException",
+            "public void implement(int, int) throws IllegalArgumentException",
+            "public int method(int, int, int, int, int) throws IllegalArgumentException, IllegalStateException",
+            "public void throwing(int, int) throws IllegalArgumentException",
+            "public boolean isSubtype(int, int)", "public boolean policy(int, int)",
+            "public int forge(int, int, int, int) throws IllegalArgumentException",
+            "public int slots()", "public int slot(int)",
+            "public void answer(int, long) throws IllegalArgumentException",
+            "public int call(int, long, long, long, long) throws IllegalArgumentException",
+            "public long result()", "public int asked()", "public long given(int, int)", "public int size()",
+            "public int byteAt(int)", "public boolean change(int, int)", "public boolean cut(int)", "public int read()");
 
     public static void main(String[] args) {
         members();
@@ -29,33 +35,24 @@ public final class FaceTest {
         CHECK.end();
     }
 
-    private static String text(Class<?>[] parameters) {
-        StringBuilder s = new StringBuilder("[");
-        for (Class<?> p : parameters) {
-            s.append(s.length() > 1 ? ", " : "").append(p.getName());
-        }
-        return s.append("]").toString();
-    }
-
     private static void members() {
         CHECK.of("The public face; LANGUAGE.md, rule 1");
-        Set<String> found = new TreeSet<>();
         Class<?> c = ProxyForge.class;
-        CHECK.yes("public and final", Modifier.isPublic(c.getModifiers()) && Modifier.isFinal(c.getModifiers()));
-        for (Field f : c.getDeclaredFields()) {
-            add(found, f, f.getName() + " " + f.getType().getName());
-        }
-        for (Constructor<?> k : c.getDeclaredConstructors()) {
-            add(found, k, "ProxyForge " + text(k.getParameterTypes()));
-        }
+        CHECK.text("the class", "public final", Modifier.toString(c.getModifiers()));
+        CHECK.yes("it extends nothing", c.getSuperclass() == Object.class && c.getInterfaces().length == 0);
+        List<Member> members = new ArrayList<>();
+        members.addAll(List.of(c.getDeclaredFields()));
+        members.addAll(List.of(c.getDeclaredConstructors()));
+        members.addAll(List.of(c.getDeclaredMethods()));
+        Set<String> found = new TreeSet<>();
         Set<String> publicNames = new TreeSet<>();
-        for (Method m : c.getDeclaredMethods()) {
-            add(found, m, m.getName() + " " + text(m.getParameterTypes()) + " " + m.getReturnType().getName());
-            if (Modifier.isPublic(m.getModifiers())) {
+        for (Member m : members) {
+            if (!Modifier.isPrivate(m.getModifiers())) {
+                found.add(told(m));
                 publicNames.add(m.getName());
             }
         }
-        CHECK.yes("the face is " + found, FACE.equals(found));
+        CHECK.text("the face", new TreeSet<>(FACE).toString(), found.toString());
         noPublicNames(c, publicNames);
         for (Class<?> inside : c.getDeclaredClasses()) {
             int modifiers = inside.getModifiers();
@@ -65,17 +62,15 @@ public final class FaceTest {
         }
     }
 
+    /** As the document writes it, but without its parameters' names. */
+    private static String told(Member m) {
+        return m.toString().replace("java.lang.", "").replace("ProxyForge.", "").replace(",", ", ");
+    }
+
     private static void noPublicNames(Class<?> c, Set<String> publicNames) {
         for (Method m : c.getDeclaredMethods()) {
             boolean hidden = Modifier.isPrivate(m.getModifiers());
             CHECK.no(m + " is private and bears a public name", hidden && publicNames.contains(m.getName()));
-        }
-    }
-
-    private static void add(Set<String> found, Member m, String text) {
-        if (!Modifier.isPrivate(m.getModifiers()) && !m.isSynthetic()) {
-            CHECK.yes(text + " is public", Modifier.isPublic(m.getModifiers()));
-            found.add(text);
         }
     }
 

@@ -9,6 +9,9 @@ public final class RandomRunsTest {
     private static final int RUNS = 1000;
     // The most that one step of a run may change.
     private static final int STEP = 40;
+    // Numbers that wrap around when they are added to, doubled, turned or cut to fewer bits.
+    private static final int[] FAR = {Integer.MIN_VALUE, Integer.MIN_VALUE + 1, Integer.MAX_VALUE, Integer.MAX_VALUE - 1,
+        1 << 30, -(1 << 30), 1 << 16, -(1 << 16), 1 << 8, 255, 32, -32};
 
     private final Random random;
     private final int run;
@@ -61,8 +64,18 @@ public final class RandomRunsTest {
         return below(25) == 0;
     }
 
+    /** What is usual, but at times a number far from all that is. */
+    private int perhapsFar(int usual) {
+        return below(60) != 0 ? usual : below(4) == 0 ? usual + 32 * (below(5) - 2) : FAR[below(FAR.length)];
+    }
+
+    /** At times one whose lowest 32 bits are the number of a type. */
+    private long anyLong() {
+        return below(3) == 0 ? below(22) + (1L << 32) * (below(5) - 2) : random.nextLong();
+    }
+
     private int anyType() {
-        return rarely() ? below(24) - 2 : below(types);
+        return perhapsFar(rarely() ? below(24) - 2 : below(types));
     }
 
     /** Few types with many methods: some proxies of these have more slots than there may be. */
@@ -127,8 +140,9 @@ public final class RandomRunsTest {
         if (wide() && types > 8) {
             return;
         }
-        int flags = rarely() ? below(12) - 2 : face ? below(4) == 0 ? 0 : 1 : new int[] {0, 1, 1, 5, 5, 4, 3}[below(7)];
-        int pack = rarely() ? below(7) - 1 : below(2);
+        int usual = rarely() ? below(12) - 2 : face ? below(4) == 0 ? 0 : 1 : new int[] {0, 1, 1, 5, 5, 4, 3}[below(7)];
+        int flags = perhapsFar(usual);
+        int pack = perhapsFar(rarely() ? below(7) - 1 : below(2));
         int parent = rarely() ? anyType() : face ? 0 : anyType();
         long t = both("type", () -> y.type(face, flags, pack, parent), () -> x.type(face, flags, pack, parent));
         if (t > 0) {
@@ -143,10 +157,11 @@ public final class RandomRunsTest {
 
     private void makeMethod() {
         int type = madeType();
-        int name = below(6) == 0 ? 10 : rarely() ? below(14) - 2 : below(wide() ? 10 : run % 10 + 1);
-        int flags = rarely() ? below(80) - 8 : new int[] {0, 1, 1, 1, 33, 33, 2, 17, 9, 4, 34, 18, 32}[below(13)];
-        int parameters = below(3) == 0 ? 0 : anyParameters();
-        int returned = name == 10 && !rarely() ? 0 : returnedKind(name);
+        int name = perhapsFar(below(6) == 0 ? 10 : rarely() ? below(14) - 2 : below(wide() ? 10 : run % 10 + 1));
+        int usual = rarely() ? below(80) - 8 : new int[] {0, 1, 1, 1, 33, 33, 2, 17, 9, 4, 34, 18, 32}[below(13)];
+        int flags = perhapsFar(usual);
+        int parameters = perhapsFar(below(3) == 0 ? 0 : anyParameters());
+        int returned = perhapsFar(name == 10 && !rarely() ? 0 : returnedKind(name));
         long m = both("method(" + type + ", " + name + ", " + flags + ", " + parameters + ", " + returned + ")",
                 () -> y.method(type, name, flags, parameters, returned),
                 () -> x.method(type, name, flags, parameters, returned));
@@ -159,7 +174,7 @@ public final class RandomRunsTest {
     }
 
     private void makeThrown() {
-        int method = rarely() ? below(64) - 2 : below(methods);
+        int method = perhapsFar(rarely() ? below(64) - 2 : below(methods));
         int type = below(3) == 0 ? anyType() : 1 + below(3);
         both("throwing(" + method + ", " + type + ")", () -> {
             y.throwing(method, type);
@@ -174,8 +189,8 @@ public final class RandomRunsTest {
         switch (below(14)) {
             case 0, 1 -> makeProxy(outcomes);
             case 2 -> {
-                int name = below(12) - 1;
-                int kind = below(6) - 1;
+                int name = perhapsFar(below(12) - 1);
+                int kind = perhapsFar(below(6) - 1);
                 both("policy", () -> y.policy(name, kind) ? 1 : 0, () -> x.policy(name, kind) ? 1 : 0);
             }
             case 3, 4 -> changeAnswer();
@@ -234,8 +249,8 @@ public final class RandomRunsTest {
     }
 
     private void changeAnswer() {
-        int kind = rarely() ? below(9) - 2 : below(6);
-        long value = kind > 3 && !rarely() ? below(types) : random.nextLong();
+        int kind = perhapsFar(rarely() ? below(9) - 2 : below(6));
+        long value = kind > 3 && !rarely() ? below(types) : anyLong();
         both("answer(" + kind + ", " + value + ")", () -> {
             y.answer(kind, value);
             return 0;
@@ -246,17 +261,17 @@ public final class RandomRunsTest {
     }
 
     private void callSlot() {
-        int slot = rarely() || y.slots() == 0 ? below(27) - 1 : below(y.slots());
+        int slot = perhapsFar(rarely() || y.slots() == 0 ? below(27) - 1 : below(y.slots()));
         long[] a = new long[4];
         for (int i = 0; i < 4; i++) {
-            a[i] = below(2) == 0 ? below(22) - 1 : random.nextLong();
+            a[i] = below(2) == 0 ? below(22) - 1 : anyLong();
         }
         both("call(" + slot + ")", () -> y.call(slot, a), () -> x.call(slot, a[0], a[1], a[2], a[3]));
         both("result", y::result, x::result);
         both("asked", y::asked, x::asked);
         for (int i = 0; i < 4; i++) {
-            int place = rarely() ? below(9) - 2 : i;
-            int part = rarely() ? below(5) - 2 : below(2);
+            int place = perhapsFar(rarely() ? below(9) - 2 : i);
+            int part = perhapsFar(rarely() ? below(5) - 2 : below(2));
             both("given", () -> y.given(place, part), () -> x.given(place, part));
         }
     }
@@ -264,7 +279,7 @@ public final class RandomRunsTest {
     /** A few changes, each read; then, mostly, the changed bytes are put back, so that later ones go deep again. */
     private void changeFile() {
         for (int i = 0; i < STEP / 2 - 1; i++) {
-            int k = below(y.size() + 3) - 1;
+            int k = perhapsFar(below(y.size() + 3) - 1);
             int before = y.byteAt(k);
             int b = below(3) == 0 ? random.nextInt() : below(2) == 0 ? before + below(3) - 1 : below(20);
             both("change(" + k + ", " + b + ")", () -> y.change(k, b) ? 1 : 0, () -> x.change(k, b) ? 1 : 0);
@@ -275,7 +290,7 @@ public final class RandomRunsTest {
             }
         }
         if (below(4) == 0) {
-            int n = below(y.size() + 4) - 1;
+            int n = perhapsFar(below(y.size() + 4) - 1);
             both("cut(" + n + ")", () -> y.cut(n) ? 1 : 0, () -> x.cut(n) ? 1 : 0);
             both("read after cut(" + n + ")", y::read, x::read);
             compareFiles("cut(" + n + ")");
